@@ -1,0 +1,590 @@
+/**
+ * One basic block for a two-issue pipelined machine without interlocks: its
+ * dependences, its optimal schedule, and its runs in order and on the machine.
+ */
+public final class BlockSchedOpt {
+    public static final int OP_LDI = 1;
+    public static final int OP_ADD = 2;
+    public static final int OP_SUB = 3;
+    public static final int OP_MUL = 4;
+    public static final int OP_LOAD = 5;
+    public static final int OP_STORE = 6;
+
+    public static final int EDGE_TRUE = 1;
+    public static final int EDGE_ANTI = 2;
+    public static final int EDGE_OUTPUT = 4;
+
+    public static final int CHK_EMPTY = -1;
+    public static final int CHK_UNSET = -2;
+    public static final int CHK_DEP = -3;
+    public static final int CHK_WIDTH = -4;
+    public static final int CHK_MEM = -5;
+    public static final int CHK_MUL = -6;
+
+    public static final int MAX_INSTR = 10;
+    public static final int MAX_CYCLE = 64;
+    public static final int ISSUE_WIDTH = 2;
+    public static final int LOCS = 16;
+
+    private static final int REGS = 8;
+    private static final int ADDRESS_MASK = 7;
+    private static final int UNSET = -1;
+    private static final int NO_EDGE = -1;
+    private static final int MAX_LATENCY = 4;
+
+    // Every instruction uses an issue slot, so that is also the unit of one that needs no other.
+    private static final int UNIT_ISSUE = 0;
+    private static final int UNIT_MEMORY = 1;
+    private static final int UNIT_MULTIPLIER = 2;
+
+    // One instruction after the other, each waiting for the one before, is always valid.
+    private static final int MAX_LENGTH = MAX_INSTR * MAX_LATENCY;
+
+    // Only there to give the search an end that can be seen: far above what any block needs.
+    private static final int MAX_STEPS = 1000000000;
+
+    private final int mulLatency;
+    private final int loadLatency;
+
+    private int n = 0;
+    private final int[] op = new int[MAX_INSTR];
+    private final int[] fieldD = new int[MAX_INSTR];
+    private final int[] fieldA = new int[MAX_INSTR];
+    private final int[] fieldB = new int[MAX_INSTR];
+    private final int[] unitOf = new int[MAX_INSTR];
+    private final int[] cycle = new int[MAX_INSTR];
+
+    private final int[] initial = new int[LOCS];
+    private final int[] sequential = new int[LOCS];
+    private final int[] machine = new int[LOCS];
+
+    // What an instruction has computed when issued and not yet written.
+    private final int[] pendingValue = new int[MAX_INSTR];
+    private final int[] pendingTarget = new int[MAX_INSTR];
+
+    // Scratch of the search: edge delays by i * MAX_INSTR + j, the cycles on trial, the first and
+    // last cycle each instruction can still have, and the choices that led here, oldest first.
+    private final int[] delay = new int[MAX_INSTR * MAX_INSTR];
+    private final int[] trial = new int[MAX_INSTR];
+    private final int[] earliest = new int[MAX_INSTR];
+    private final int[] latest = new int[MAX_INSTR];
+    private final int[] chosen = new int[MAX_INSTR];
+    private final int[] lastTry = new int[MAX_INSTR];
+
+    public BlockSchedOpt(int mulLatency, int loadLatency) {
+        this.mulLatency = clampLatency(mulLatency);
+        this.loadLatency = clampLatency(loadLatency);
+    }
+
+    public int addInstr(int op, int d, int a, int b) {
+        if (n >= MAX_INSTR || !isWellFormed(op, d, a, b)) {
+            return -1;
+        }
+        int i = n;
+        this.op[i] = op;
+        fieldD[i] = d;
+        fieldA[i] = a;
+        fieldB[i] = b;
+        unitOf[i] = unitFor(op);
+        cycle[i] = UNSET;
+        n = i + 1;
+        return i;
+    }
+
+    public void clear() {
+        n = 0;
+    }
+
+    public boolean setInit(int loc, int value) {
+        if (!isLocation(loc)) {
+            return false;
+        }
+        initial[loc] = value;
+        return true;
+    }
+
+    public boolean setCycle(int i, int c) {
+        if (!isInstr(i) || c < UNSET || c >= MAX_CYCLE) {
+            return false;
+        }
+        cycle[i] = c;
+        return true;
+    }
+
+    public int cycleOf(int i) {
+        return isInstr(i) ? cycle[i] : UNSET;
+    }
+
+    public int schedule() {
+        if (n == 0) {
+            return 0;
+        }
+        int length = longestChain();
+        while (length < MAX_LENGTH && !fits(0, length)) {
+            length++;
+        }
+        settle(length);
+        return length;
+    }
+
+    public int check() {
+        if (n == 0) {
+            return CHK_EMPTY;
+        }
+        if (hasUnset()) {
+            return CHK_UNSET;
+        }
+        if (breaksDependence()) {
+            return CHK_DEP;
+        }
+        if (overfills(UNIT_ISSUE)) {
+            return CHK_WIDTH;
+        }
+        if (overfills(UNIT_MEMORY)) {
+            return CHK_MEM;
+        }
+        if (overfills(UNIT_MULTIPLIER)) {
+            return CHK_MUL;
+        }
+        return lengthOfCycles();
+    }
+
+    public int run() {
+        if (n == 0 || hasUnset()) {
+            return -1;
+        }
+        runSequential();
+        runMachine();
+        int differing = 0;
+        for (int loc = 0; loc < LOCS; loc++) {
+            if (sequential[loc] != machine[loc]) {
+                differing++;
+            }
+        }
+        return differing;
+    }
+
+    public int seqValue(int loc) {
+        return isLocation(loc) ? sequential[loc] : 0;
+    }
+
+    public int machValue(int loc) {
+        return isLocation(loc) ? machine[loc] : 0;
+    }
+
+    public int edgeKinds(int i, int j) {
+        return isPair(i, j) ? kindsOfPair(i, j) : 0;
+    }
+
+    public int edgeDelay(int i, int j) {
+        return isPair(i, j) ? delayOfPair(i, j) : NO_EDGE;
+    }
+
+    public int criticalPath() {
+        return longestChain();
+    }
+
+    public int bundleAt(int cycle, int slot) {
+        if (cycle < 0 || cycle >= MAX_CYCLE || slot < 0) {
+            return -1;
+        }
+        int before = 0;
+        for (int i = 0; i < n; i++) {
+            if (this.cycle[i] == cycle) {
+                if (before == slot) {
+                    return i;
+                }
+                before++;
+            }
+        }
+        return -1;
+    }
+
+    private static int clampLatency(int latency) {
+        if (latency < 1) {
+            return 1;
+        }
+        return latency > MAX_LATENCY ? MAX_LATENCY : latency;
+    }
+
+    private static boolean isWellFormed(int op, int d, int a, int b) {
+        if (op < OP_LDI || op > OP_STORE || !isRegister(d)) {
+            return false;
+        }
+        if (op == OP_LDI) {
+            return true;
+        }
+        if (!isRegister(a)) {
+            return false;
+        }
+        return op == OP_LOAD || op == OP_STORE || isRegister(b);
+    }
+
+    private static boolean isRegister(int r) {
+        return r >= 0 && r < REGS;
+    }
+
+    private static boolean isLocation(int loc) {
+        return loc >= 0 && loc < LOCS;
+    }
+
+    private boolean isInstr(int i) {
+        return i >= 0 && i < n;
+    }
+
+    private boolean isPair(int i, int j) {
+        return i >= 0 && i < j && j < n;
+    }
+
+    /** The scarce unit that the opcode needs beside an issue slot. */
+    private static int unitFor(int op) {
+        if (op == OP_MUL) {
+            return UNIT_MULTIPLIER;
+        }
+        return op == OP_LOAD || op == OP_STORE ? UNIT_MEMORY : UNIT_ISSUE;
+    }
+
+    private static int capacityOf(int unit) {
+        return unit == UNIT_ISSUE ? ISSUE_WIDTH : 1;
+    }
+
+    private boolean uses(int i, int unit) {
+        return unit == UNIT_ISSUE || unitOf[i] == unit;
+    }
+
+    private int latencyOf(int i) {
+        if (op[i] == OP_MUL) {
+            return mulLatency;
+        }
+        return op[i] == OP_LOAD ? loadLatency : 1;
+    }
+
+    /** The registers that instruction i reads, one bit each. */
+    private int readsOf(int i) {
+        switch (op[i]) {
+            case OP_LDI:
+                return 0;
+            case OP_LOAD:
+                return 1 << fieldA[i];
+            case OP_STORE:
+                return (1 << fieldA[i]) | (1 << fieldD[i]);
+            default:
+                return (1 << fieldA[i]) | (1 << fieldB[i]);
+        }
+    }
+
+    /** The register that instruction i writes, as a bit. */
+    private int writesOf(int i) {
+        return op[i] == OP_STORE ? 0 : 1 << fieldD[i];
+    }
+
+    private int kindsOfPair(int i, int j) {
+        int readsI = readsOf(i);
+        int readsJ = readsOf(j);
+        int writesI = writesOf(i);
+        int writesJ = writesOf(j);
+        int kinds = 0;
+        if ((writesI & readsJ) != 0 || (op[i] == OP_STORE && op[j] == OP_LOAD)) {
+            kinds |= EDGE_TRUE;
+        }
+        if ((readsI & writesJ) != 0 || (op[i] == OP_LOAD && op[j] == OP_STORE)) {
+            kinds |= EDGE_ANTI;
+        }
+        if ((writesI & writesJ) != 0 || (op[i] == OP_STORE && op[j] == OP_STORE)) {
+            kinds |= EDGE_OUTPUT;
+        }
+        return kinds;
+    }
+
+    private int delayOfPair(int i, int j) {
+        int kinds = kindsOfPair(i, j);
+        if (kinds == 0) {
+            return NO_EDGE;
+        }
+        int latencyI = latencyOf(i);
+        int latencyJ = latencyOf(j);
+        int greatest = 0;
+        if ((kinds & EDGE_OUTPUT) != 0) {
+            greatest = latencyI > latencyJ ? latencyI - latencyJ + 1 : 1;
+        }
+        if ((kinds & EDGE_TRUE) != 0 && latencyI > greatest) {
+            greatest = latencyI;
+        }
+        return greatest;
+    }
+
+    /** The critical path; leaves every delay behind for the search. */
+    private int longestChain() {
+        int longest = 0;
+        for (int j = 0; j < n; j++) {
+            earliest[j] = 0;
+            for (int i = 0; i < j; i++) {
+                int wait = delayOfPair(i, j);
+                delay[i * MAX_INSTR + j] = wait;
+                if (wait != NO_EDGE && earliest[i] + wait > earliest[j]) {
+                    earliest[j] = earliest[i] + wait;
+                }
+            }
+            int end = earliest[j] + latencyOf(j);
+            if (end > longest) {
+                longest = end;
+            }
+        }
+        return longest;
+    }
+
+    /** Settles each instruction in turn on the first cycle that the later ones can live with. */
+    private void settle(int length) {
+        for (int i = 0; i < n; i++) {
+            for (int c = 0; c < length; c++) {
+                cycle[i] = c;
+                if (fits(i + 1, length)) {
+                    break;
+                }
+            }
+        }
+    }
+
+    /** Whether a valid schedule within the length gives the first instructions the cycles they hold. */
+    private boolean fits(int settled, int length) {
+        for (int i = 0; i < n; i++) {
+            trial[i] = i < settled ? cycle[i] : UNSET;
+        }
+        int depth = 0;
+        for (int step = 0; step < MAX_STEPS; step++) {
+            if (findWindows(length) && !hasCrowdedStretch()) {
+                int i = tightest();
+                if (i < 0) {
+                    return true;
+                }
+                chosen[depth] = i;
+                lastTry[depth] = latest[i];
+                trial[i] = earliest[i];
+                depth++;
+            } else {
+                depth = retreat(depth);
+                if (depth == 0) {
+                    return false;
+                }
+            }
+        }
+        return false;
+    }
+
+    /** Moves the newest choice that has a cycle left to it, gives up those after it, and answers the depth. */
+    private int retreat(int depth) {
+        for (int left = depth; left > 0; left--) {
+            int i = chosen[left - 1];
+            if (trial[i] < lastTry[left - 1]) {
+                trial[i]++;
+                return left;
+            }
+            trial[i] = UNSET;
+        }
+        return 0;
+    }
+
+    /** The instruction without a cycle that has the fewest to choose from, so that a dead end shows early; -1 if none. */
+    private int tightest() {
+        int found = -1;
+        for (int i = 0; i < n; i++) {
+            if (trial[i] == UNSET
+                    && (found < 0 || latest[i] - earliest[i] < latest[found] - earliest[found])) {
+                found = i;
+            }
+        }
+        return found;
+    }
+
+    /** Finds the cycles that the edges and the length leave to each instruction; false if one has none. */
+    private boolean findWindows(int length) {
+        for (int i = 0; i < n; i++) {
+            boolean free = trial[i] == UNSET;
+            earliest[i] = free ? 0 : trial[i];
+            latest[i] = free ? length - latencyOf(i) : trial[i];
+        }
+        for (int j = 0; j < n; j++) {
+            for (int i = 0; i < j; i++) {
+                int wait = delay[i * MAX_INSTR + j];
+                if (wait != NO_EDGE && earliest[i] + wait > earliest[j]) {
+                    earliest[j] = earliest[i] + wait;
+                }
+            }
+        }
+        for (int i = n - 1; i >= 0; i--) {
+            for (int j = i + 1; j < n; j++) {
+                int wait = delay[i * MAX_INSTR + j];
+                if (wait != NO_EDGE && latest[j] - wait < latest[i]) {
+                    latest[i] = latest[j] - wait;
+                }
+            }
+            if (earliest[i] > latest[i]) {
+                return false;
+            }
+        }
+        return true;
+    }
+
+    /** With every cycle on trial this is the rule for single cycles; before that it shows dead ends early. */
+    private boolean hasCrowdedStretch() {
+        for (int i = 0; i < n; i++) {
+            for (int j = 0; j < n; j++) {
+                int first = earliest[i];
+                int last = latest[j];
+                if (first <= last
+                        && (isCrowded(first, last, UNIT_ISSUE)
+                                || isCrowded(first, last, UNIT_MEMORY)
+                                || isCrowded(first, last, UNIT_MULTIPLIER))) {
+                    return true;
+                }
+            }
+        }
+        return false;
+    }
+
+    /** Whether more must use the unit from cycle first to cycle last than it can take there. */
+    private boolean isCrowded(int first, int last, int unit) {
+        int needed = 0;
+        for (int i = 0; i < n; i++) {
+            if (earliest[i] >= first && latest[i] <= last && uses(i, unit)) {
+                needed++;
+            }
+        }
+        int room = (last - first + 1) * capacityOf(unit);
+        // A bundle that is full without the unit leaves the unit idle.
+        if (unit != UNIT_ISSUE && needed > 0) {
+            room -= bundlesFullWithout(first, last, unit);
+        }
+        return needed > room;
+    }
+
+    private int bundlesFullWithout(int first, int last, int unit) {
+        int full = 0;
+        for (int i = 0; i < n; i++) {
+            if (trial[i] >= first && trial[i] <= last && unitOf[i] != unit) {
+                for (int j = 0; j < i; j++) {
+                    if (trial[j] == trial[i] && unitOf[j] != unit) {
+                        full++;
+                    }
+                }
+            }
+        }
+        return full;
+    }
+
+    private boolean hasUnset() {
+        for (int i = 0; i < n; i++) {
+            if (cycle[i] == UNSET) {
+                return true;
+            }
+        }
+        return false;
+    }
+
+    private boolean breaksDependence() {
+        for (int i = 0; i < n; i++) {
+            for (int j = i + 1; j < n; j++) {
+                int wait = delayOfPair(i, j);
+                if (wait != NO_EDGE && cycle[j] < cycle[i] + wait) {
+                    return true;
+                }
+            }
+        }
+        return false;
+    }
+
+    private boolean overfills(int unit) {
+        for (int i = 0; i < n; i++) {
+            int together = 0;
+            for (int j = 0; j < n; j++) {
+                if (cycle[j] == cycle[i] && uses(j, unit)) {
+                    together++;
+                }
+            }
+            if (together > capacityOf(unit)) {
+                return true;
+            }
+        }
+        return false;
+    }
+
+    private int lengthOfCycles() {
+        int length = 0;
+        for (int i = 0; i < n; i++) {
+            int end = cycle[i] + latencyOf(i);
+            if (end > length) {
+                length = end;
+            }
+        }
+        return length;
+    }
+
+    private void runSequential() {
+        startFromInitial(sequential);
+        for (int i = 0; i < n; i++) {
+            compute(i, sequential);
+            sequential[pendingTarget[i]] = pendingValue[i];
+        }
+    }
+
+    private void runMachine() {
+        startFromInitial(machine);
+        int end = lengthOfCycles();
+        for (int t = 0; t < end; t++) {
+            issueAt(t);
+            writeAt(t);
+        }
+    }
+
+    private void issueAt(int t) {
+        for (int i = 0; i < n; i++) {
+            if (cycle[i] == t) {
+                compute(i, machine);
+            }
+        }
+    }
+
+    private void writeAt(int t) {
+        for (int i = 0; i < n; i++) {
+            int due = cycle[i] + latencyOf(i) - 1;
+            if (due == t) {
+                machine[pendingTarget[i]] = pendingValue[i];
+            }
+        }
+    }
+
+    private void startFromInitial(int[] state) {
+        for (int loc = 0; loc < LOCS; loc++) {
+            state[loc] = initial[loc];
+        }
+    }
+
+    /** Reads the sources of instruction i from the state and keeps what it will write, and where. */
+    private void compute(int i, int[] state) {
+        int d = fieldD[i];
+        int a = fieldA[i];
+        int b = fieldB[i];
+        pendingTarget[i] = d;
+        switch (op[i]) {
+            case OP_LDI:
+                pendingValue[i] = a;
+                break;
+            case OP_ADD:
+                pendingValue[i] = state[a] + state[b];
+                break;
+            case OP_SUB:
+                pendingValue[i] = state[a] - state[b];
+                break;
+            case OP_MUL:
+                pendingValue[i] = state[a] * state[b];
+                break;
+            case OP_LOAD:
+                pendingValue[i] = state[REGS + ((state[a] + b) & ADDRESS_MASK)];
+                break;
+            default:
+                pendingValue[i] = state[d];
+                pendingTarget[i] = REGS + ((state[a] + b) & ADDRESS_MASK);
+                break;
+        }
+    }
+}

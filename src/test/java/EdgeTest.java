@@ -1,0 +1,124 @@
+/** Promise 10: dependence edges of a pair. */
+public final class EdgeTest {
+    public static void main(String[] args) {
+        Due due = new Due();
+        eachKind(due);
+        memoryKinds(due);
+        fieldsThatAreNoRegisters(due);
+        outputDelays(due);
+        severalKinds(due);
+        noPair(due);
+        cyclesAndValuesDoNotMatter(due);
+        everyPairOfInstructions(due);
+        due.end();
+    }
+
+    private static void expect(Due due, String what, int kinds, int delay, int... fields) {
+        BlockSchedOpt x = Look.block(3, 4, fields);
+        due.is("edgeKinds of " + what, x.edgeKinds(0, 1), kinds);
+        due.is("edgeDelay of " + what, x.edgeDelay(0, 1), delay);
+        due.is("edgeKinds back of " + what, x.edgeKinds(1, 0), 0);
+        due.is("edgeDelay back of " + what, x.edgeDelay(1, 0), -1);
+    }
+
+    private static void eachKind(Due due) {
+        expect(due, "nothing shared", 0, -1, 2, 0, 1, 2, 2, 3, 1, 2);
+        expect(due, "ADD read as a", 1, 1, 2, 0, 1, 1, 2, 3, 0, 2);
+        expect(due, "LDI read as b", 1, 1, 1, 0, 1, 1, 3, 3, 2, 0);
+        expect(due, "MUL read", 1, 3, 4, 0, 1, 1, 4, 3, 2, 0);
+        expect(due, "LOAD read as an address", 1, 4, 5, 0, 1, 1, 5, 3, 0, 0);
+        expect(due, "LOAD stored", 3, 4, 5, 0, 1, 1, 6, 0, 2, 0);
+        expect(due, "SUB stored at", 1, 1, 3, 0, 1, 1, 6, 2, 0, 0);
+        expect(due, "a overwritten", 2, 0, 2, 0, 1, 2, 1, 1, 0, 0);
+        expect(due, "b overwritten", 2, 0, 4, 0, 1, 2, 5, 2, 3, 0);
+        expect(due, "stored value overwritten", 2, 0, 6, 4, 1, 0, 1, 4, 0, 0);
+        expect(due, "stored address overwritten", 2, 0, 6, 4, 1, 0, 1, 1, 0, 0);
+        expect(due, "loaded address overwritten", 2, 0, 5, 4, 1, 0, 2, 1, 0, 0);
+        expect(due, "two LDIs of one register", 4, 1, 1, 4, 1, 0, 1, 4, 1, 0);
+    }
+
+    private static void memoryKinds(Due due) {
+        expect(due, "two LOADs", 0, -1, 5, 0, 7, 0, 5, 1, 7, 0);
+        expect(due, "LOAD and STORE", 2, 0, 5, 0, 7, 0, 6, 1, 7, 1);
+        expect(due, "STORE and LOAD", 1, 1, 6, 0, 7, 0, 5, 1, 7, 1);
+        expect(due, "two STOREs", 4, 1, 6, 0, 7, 0, 6, 1, 7, 1);
+        expect(due, "STORE and a LOAD over its value", 3, 1, 6, 0, 7, 0, 5, 0, 7, 1);
+    }
+
+    private static void fieldsThatAreNoRegisters(Due due) {
+        expect(due, "an immediate like a register written", 0, -1, 1, 3, 0, 0, 1, 4, 3, 3);
+        expect(due, "an immediate like a register overwritten", 0, -1, 1, 3, 5, 6, 2, 5, 0, 0);
+        expect(due, "an ignored b overwritten", 0, -1, 1, 3, 5, 6, 2, 6, 0, 0);
+        expect(due, "a LOAD's offset like a register", 0, -1, 1, 3, 0, 0, 5, 4, 0, 3);
+        expect(due, "a STORE's offset like a register", 0, -1, 1, 3, 0, 0, 6, 4, 0, 3);
+        expect(due, "a STORE's d is not written", 0, -1, 6, 3, 0, 0, 2, 4, 3, 3);
+    }
+
+    private static void outputDelays(Due due) {
+        int[] latency = {0, 1, 1, 1, 3, 4};
+        for (int first = 1; first <= 5; first++) {
+            for (int second = 1; second <= 5; second++) {
+                int delay = Math.max(1, latency[first] - latency[second] + 1);
+                expect(due, "op " + first + " and op " + second + " writing r0", 4, delay,
+                        first, 0, 6, 6, second, 0, 7, 7);
+            }
+        }
+    }
+
+    private static void severalKinds(Due due) {
+        expect(due, "all three", 7, 3, 4, 0, 0, 0, 4, 0, 0, 0);
+        expect(due, "true and output", 5, 4, 5, 0, 1, 0, 2, 0, 0, 0);
+        expect(due, "anti and output", 6, 4, 5, 0, 0, 0, 1, 0, 0, 0);
+        expect(due, "true and anti", 3, 3, 4, 0, 1, 1, 2, 1, 0, 0);
+    }
+
+    private static void noPair(Due due) {
+        BlockSchedOpt x = new BlockSchedOpt(2, 2);
+        due.is("edgeKinds(0, 1) while empty", x.edgeKinds(0, 1), 0);
+        due.is("edgeDelay(0, 1) while empty", x.edgeDelay(0, 1), -1);
+        Look.add(x, 2, 0, 0, 0, 2, 0, 0, 0, 2, 0, 0, 0);
+        int[] indices = {Integer.MIN_VALUE, -1, 0, 1, 2, 3, 9, 10, 11, Integer.MAX_VALUE};
+        for (int i : indices) {
+            for (int j : indices) {
+                boolean pair = i >= 0 && i < j && j < 3;
+                due.is("edgeKinds(" + i + ", " + j + ")", x.edgeKinds(i, j), pair ? 7 : 0);
+                due.is("edgeDelay(" + i + ", " + j + ")", x.edgeDelay(i, j), pair ? 1 : -1);
+            }
+        }
+    }
+
+    private static void cyclesAndValuesDoNotMatter(Due due) {
+        BlockSchedOpt x = Look.block(2, 3, 5, 0, 1, 0, 4, 2, 0, 0, 6, 2, 1, 0);
+        int[] kinds = {x.edgeKinds(0, 1), x.edgeKinds(0, 2), x.edgeKinds(1, 2)};
+        due.same("kinds", kinds, new int[] {1, 2, 1});
+        x.setInit(1, 6);
+        Look.setCycles(x, 3, 2, 1);
+        x.run();
+        x.schedule();
+        due.same("kinds later", new int[] {x.edgeKinds(0, 1), x.edgeKinds(0, 2), x.edgeKinds(1, 2)}, kinds);
+        int[] before = Look.everything(x);
+        x.edgeKinds(0, 1);
+        x.edgeDelay(0, 1);
+        due.same("after edgeKinds and edgeDelay", Look.everything(x), before);
+    }
+
+    private static void everyPairOfInstructions(Due due) {
+        int kindsOfInstr = 6 * 27;
+        for (int p = 0; p < kindsOfInstr; p++) {
+            for (int q = 0; q < kindsOfInstr; q++) {
+                BlockSchedOpt x = new BlockSchedOpt(2, 4);
+                PlainModel model = new PlainModel(2, 4);
+                for (int code : new int[] {p, q}) {
+                    int op = 1 + code / 27;
+                    int d = code / 9 % 3;
+                    int a = code / 3 % 3;
+                    int b = code % 3;
+                    x.addInstr(op, d, a, b);
+                    model.addInstr(op, d, a, b);
+                }
+                due.is("edgeKinds of pair " + p + ", " + q, x.edgeKinds(0, 1), model.edgeKinds(0, 1));
+                due.is("edgeDelay of pair " + p + ", " + q, x.edgeDelay(0, 1), model.edgeDelay(0, 1));
+            }
+        }
+    }
+}

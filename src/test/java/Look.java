@@ -1,0 +1,62 @@
+import java.util.stream.IntStream;
+
+/** Reads and fills objects for the tests, by public calls alone. */
+final class Look {
+    private Look() {
+    }
+
+    /** A block of the given instructions, four numbers each: op, d, a, b. */
+    static BlockSchedOpt block(int mulLatency, int loadLatency, int... fields) {
+        BlockSchedOpt x = new BlockSchedOpt(mulLatency, loadLatency);
+        add(x, fields);
+        return x;
+    }
+
+    static void add(BlockSchedOpt x, int... fields) {
+        for (int k = 0; k + 3 < fields.length; k += 4) {
+            x.addInstr(fields[k], fields[k + 1], fields[k + 2], fields[k + 3]);
+        }
+    }
+
+    static void setCycles(BlockSchedOpt x, int... cycles) {
+        for (int i = 0; i < cycles.length; i++) {
+            x.setCycle(i, cycles[i]);
+        }
+    }
+
+    static int[] cycles(BlockSchedOpt x, int n) {
+        return IntStream.range(0, n).map(x::cycleOf).toArray();
+    }
+
+    static int[] sequential(BlockSchedOpt x) {
+        return IntStream.range(0, 16).map(x::seqValue).toArray();
+    }
+
+    static int[] machine(BlockSchedOpt x) {
+        return IntStream.range(0, 16).map(x::machValue).toArray();
+    }
+
+    /** All that can be read without changing anything, and beyond every edge. */
+    static int[] everything(BlockSchedOpt x) {
+        IntStream.Builder seen = IntStream.builder();
+        for (int i = -2; i <= 11; i++) {
+            seen.add(x.cycleOf(i));
+            for (int j = -2; j <= 11; j++) {
+                seen.add(x.edgeKinds(i, j));
+                seen.add(x.edgeDelay(i, j));
+            }
+        }
+        for (int loc = -1; loc <= 16; loc++) {
+            seen.add(x.seqValue(loc));
+            seen.add(x.machValue(loc));
+        }
+        for (int t = -2; t <= 65; t++) {
+            for (int slot = -1; slot <= 10; slot++) {
+                seen.add(x.bundleAt(t, slot));
+            }
+        }
+        seen.add(x.check());
+        seen.add(x.criticalPath());
+        return seen.build().toArray();
+    }
+}
