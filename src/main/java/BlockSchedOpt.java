@@ -40,6 +40,8 @@ public final class BlockSchedOpt {
     // One instruction after the other, each waiting for the one before, is always valid.
     private static final int MAX_LENGTH = MAX_INSTR * MAX_LATENCY;
 
+    private static final int PAIRS = MAX_INSTR * MAX_INSTR;
+
     // Only there to give the search an end that can be seen: far above what any block needs.
     private static final int MAX_STEPS = 1000000000;
 
@@ -47,12 +49,12 @@ public final class BlockSchedOpt {
     private final int loadLatency;
 
     private int n = 0;
-    private final int[] op = new int[MAX_INSTR];
+    private final int[] opcode = new int[MAX_INSTR];
     private final int[] fieldD = new int[MAX_INSTR];
     private final int[] fieldA = new int[MAX_INSTR];
     private final int[] fieldB = new int[MAX_INSTR];
     private final int[] unitOf = new int[MAX_INSTR];
-    private final int[] cycle = new int[MAX_INSTR];
+    private final int[] issue = new int[MAX_INSTR];
 
     private final int[] initial = new int[LOCS];
     private final int[] sequential = new int[LOCS];
@@ -64,7 +66,7 @@ public final class BlockSchedOpt {
 
     // Scratch of the search: edge delays by i * MAX_INSTR + j, the cycles on trial, the first and
     // last cycle each instruction can still have, and the choices that led here, oldest first.
-    private final int[] delay = new int[MAX_INSTR * MAX_INSTR];
+    private final int[] delay = new int[PAIRS];
     private final int[] trial = new int[MAX_INSTR];
     private final int[] earliest = new int[MAX_INSTR];
     private final int[] latest = new int[MAX_INSTR];
@@ -81,12 +83,12 @@ public final class BlockSchedOpt {
             return -1;
         }
         int i = n;
-        this.op[i] = op;
+        opcode[i] = op;
         fieldD[i] = d;
         fieldA[i] = a;
         fieldB[i] = b;
         unitOf[i] = unitFor(op);
-        cycle[i] = UNSET;
+        issue[i] = UNSET;
         n = i + 1;
         return i;
     }
@@ -107,12 +109,12 @@ public final class BlockSchedOpt {
         if (!isInstr(i) || c < UNSET || c >= MAX_CYCLE) {
             return false;
         }
-        cycle[i] = c;
+        issue[i] = c;
         return true;
     }
 
     public int cycleOf(int i) {
-        return isInstr(i) ? cycle[i] : UNSET;
+        return isInstr(i) ? issue[i] : UNSET;
     }
 
     public int schedule() {
@@ -190,7 +192,7 @@ public final class BlockSchedOpt {
         }
         int before = 0;
         for (int i = 0; i < n; i++) {
-            if (this.cycle[i] == cycle) {
+            if (issue[i] == cycle) {
                 if (before == slot) {
                     return i;
                 }
@@ -253,15 +255,15 @@ public final class BlockSchedOpt {
     }
 
     private int latencyOf(int i) {
-        if (op[i] == OP_MUL) {
+        if (opcode[i] == OP_MUL) {
             return mulLatency;
         }
-        return op[i] == OP_LOAD ? loadLatency : 1;
+        return opcode[i] == OP_LOAD ? loadLatency : 1;
     }
 
     /** The registers that instruction i reads, one bit each. */
     private int readsOf(int i) {
-        switch (op[i]) {
+        switch (opcode[i]) {
             case OP_LDI:
                 return 0;
             case OP_LOAD:
@@ -275,7 +277,7 @@ public final class BlockSchedOpt {
 
     /** The register that instruction i writes, as a bit. */
     private int writesOf(int i) {
-        return op[i] == OP_STORE ? 0 : 1 << fieldD[i];
+        return opcode[i] == OP_STORE ? 0 : 1 << fieldD[i];
     }
 
     private int kindsOfPair(int i, int j) {
@@ -284,13 +286,13 @@ public final class BlockSchedOpt {
         int writesI = writesOf(i);
         int writesJ = writesOf(j);
         int kinds = 0;
-        if ((writesI & readsJ) != 0 || (op[i] == OP_STORE && op[j] == OP_LOAD)) {
+        if ((writesI & readsJ) != 0 || (opcode[i] == OP_STORE && opcode[j] == OP_LOAD)) {
             kinds |= EDGE_TRUE;
         }
-        if ((readsI & writesJ) != 0 || (op[i] == OP_LOAD && op[j] == OP_STORE)) {
+        if ((readsI & writesJ) != 0 || (opcode[i] == OP_LOAD && opcode[j] == OP_STORE)) {
             kinds |= EDGE_ANTI;
         }
-        if ((writesI & writesJ) != 0 || (op[i] == OP_STORE && op[j] == OP_STORE)) {
+        if ((writesI & writesJ) != 0 || (opcode[i] == OP_STORE && opcode[j] == OP_STORE)) {
             kinds |= EDGE_OUTPUT;
         }
         return kinds;
@@ -333,11 +335,12 @@ public final class BlockSchedOpt {
         return longest;
     }
 
-    /** Settles each instruction in turn on the first cycle that the later ones can live with. */
+    /** Lexicographically least: each in turn takes the first cycle that the later ones allow. */
     private void settle(int length) {
         for (int i = 0; i < n; i++) {
-            for (int c = 0; c < length; c++) {
-                cycle[i] = c;
+            int last = length - latencyOf(i);
+            for (int c = 0; c <= last; c++) {
+                issue[i] = c;
                 if (fits(i + 1, length)) {
                     break;
                 }
@@ -345,10 +348,10 @@ public final class BlockSchedOpt {
         }
     }
 
-    /** Whether a valid schedule within the length gives the first instructions the cycles they hold. */
+    /** Whether the instructions before number settled can keep their cycles in a valid schedule. */
     private boolean fits(int settled, int length) {
         for (int i = 0; i < n; i++) {
-            trial[i] = i < settled ? cycle[i] : UNSET;
+            trial[i] = i < settled ? issue[i] : UNSET;
         }
         int depth = 0;
         for (int step = 0; step < MAX_STEPS; step++) {
@@ -371,7 +374,7 @@ public final class BlockSchedOpt {
         return false;
     }
 
-    /** Moves the newest choice that has a cycle left to it, gives up those after it, and answers the depth. */
+    /** Moves on the newest choice that has a cycle left, gives up those after it; the new depth. */
     private int retreat(int depth) {
         for (int left = depth; left > 0; left--) {
             int i = chosen[left - 1];
@@ -384,7 +387,7 @@ public final class BlockSchedOpt {
         return 0;
     }
 
-    /** The instruction without a cycle that has the fewest to choose from, so that a dead end shows early; -1 if none. */
+    /** What has the fewest cycles left goes first, so that dead ends show early; -1 if none. */
     private int tightest() {
         int found = -1;
         for (int i = 0; i < n; i++) {
@@ -396,7 +399,7 @@ public final class BlockSchedOpt {
         return found;
     }
 
-    /** Finds the cycles that the edges and the length leave to each instruction; false if one has none. */
+    /** Narrows each instruction to what edges and length leave it; false if one has no cycle. */
     private boolean findWindows(int length) {
         for (int i = 0; i < n; i++) {
             boolean free = trial[i] == UNSET;
@@ -425,7 +428,7 @@ public final class BlockSchedOpt {
         return true;
     }
 
-    /** With every cycle on trial this is the rule for single cycles; before that it shows dead ends early. */
+    /** The bundle rules once every cycle is on trial; before that, a way to see dead ends early. */
     private boolean hasCrowdedStretch() {
         for (int i = 0; i < n; i++) {
             for (int j = 0; j < n; j++) {
@@ -474,7 +477,7 @@ public final class BlockSchedOpt {
 
     private boolean hasUnset() {
         for (int i = 0; i < n; i++) {
-            if (cycle[i] == UNSET) {
+            if (issue[i] == UNSET) {
                 return true;
             }
         }
@@ -485,7 +488,7 @@ public final class BlockSchedOpt {
         for (int i = 0; i < n; i++) {
             for (int j = i + 1; j < n; j++) {
                 int wait = delayOfPair(i, j);
-                if (wait != NO_EDGE && cycle[j] < cycle[i] + wait) {
+                if (wait != NO_EDGE && issue[j] < issue[i] + wait) {
                     return true;
                 }
             }
@@ -497,7 +500,7 @@ public final class BlockSchedOpt {
         for (int i = 0; i < n; i++) {
             int together = 0;
             for (int j = 0; j < n; j++) {
-                if (cycle[j] == cycle[i] && uses(j, unit)) {
+                if (issue[j] == issue[i] && uses(j, unit)) {
                     together++;
                 }
             }
@@ -511,7 +514,7 @@ public final class BlockSchedOpt {
     private int lengthOfCycles() {
         int length = 0;
         for (int i = 0; i < n; i++) {
-            int end = cycle[i] + latencyOf(i);
+            int end = issue[i] + latencyOf(i);
             if (end > length) {
                 length = end;
             }
@@ -538,7 +541,7 @@ public final class BlockSchedOpt {
 
     private void issueAt(int t) {
         for (int i = 0; i < n; i++) {
-            if (cycle[i] == t) {
+            if (issue[i] == t) {
                 compute(i, machine);
             }
         }
@@ -546,7 +549,7 @@ public final class BlockSchedOpt {
 
     private void writeAt(int t) {
         for (int i = 0; i < n; i++) {
-            int due = cycle[i] + latencyOf(i) - 1;
+            int due = issue[i] + latencyOf(i) - 1;
             if (due == t) {
                 machine[pendingTarget[i]] = pendingValue[i];
             }
@@ -559,13 +562,13 @@ public final class BlockSchedOpt {
         }
     }
 
-    /** Reads the sources of instruction i from the state and keeps what it will write, and where. */
+    /** Keeps what instruction i will write, and where, as the state now gives it. */
     private void compute(int i, int[] state) {
         int d = fieldD[i];
         int a = fieldA[i];
         int b = fieldB[i];
         pendingTarget[i] = d;
-        switch (op[i]) {
+        switch (opcode[i]) {
             case OP_LDI:
                 pendingValue[i] = a;
                 break;
