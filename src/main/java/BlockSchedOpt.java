@@ -40,10 +40,15 @@ public final class BlockSchedOpt {
     // One instruction after the other, each waiting for the one before, is always valid.
     private static final int MAX_LENGTH = MAX_INSTR * MAX_LATENCY;
 
+    private static final int CROWDED = -1;
     private static final int PAIRS = MAX_INSTR * MAX_INSTR;
 
-    // Only there to give the search an end that can be seen: far above what any block needs.
-    private static final int MAX_STEPS = 1000000000;
+    // Each round of narrowing but the last takes a cycle from at least one instruction.
+    private static final int MAX_ROUNDS = MAX_INSTR * MAX_LENGTH + 1;
+
+    // Only there to give the search an end that can be seen: the hardest blocks met in long
+    // trials took some thousand steps.
+    private static final int MAX_STEPS = 100000000;
 
     private final int mulLatency;
     private final int loadLatency;
@@ -125,7 +130,16 @@ public final class BlockSchedOpt {
         while (length < MAX_LENGTH && !fits(0, length)) {
             length++;
         }
-        settle(length);
+        // Lexicographically least: each in turn takes the first cycle that the later ones allow.
+        for (int i = 0; i < n; i++) {
+            int last = length - latencyOf(i);
+            for (int c = 0; c <= last; c++) {
+                issue[i] = c;
+                if (fits(i + 1, length)) {
+                    break;
+                }
+            }
+        }
         return length;
     }
 
@@ -335,19 +349,6 @@ public final class BlockSchedOpt {
         return longest;
     }
 
-    /** Lexicographically least: each in turn takes the first cycle that the later ones allow. */
-    private void settle(int length) {
-        for (int i = 0; i < n; i++) {
-            int last = length - latencyOf(i);
-            for (int c = 0; c <= last; c++) {
-                issue[i] = c;
-                if (fits(i + 1, length)) {
-                    break;
-                }
-            }
-        }
-    }
-
     /** Whether the instructions before number settled can keep their cycles in a valid schedule. */
     private boolean fits(int settled, int length) {
         for (int i = 0; i < n; i++) {
@@ -355,7 +356,7 @@ public final class BlockSchedOpt {
         }
         int depth = 0;
         for (int step = 0; step < MAX_STEPS; step++) {
-            if (findWindows(length) && !hasCrowdedStretch()) {
+            if (leavesChance(length)) {
                 int i = tightest();
                 if (i < 0) {
                     return true;
@@ -399,13 +400,31 @@ public final class BlockSchedOpt {
         return found;
     }
 
-    /** Narrows each instruction to what edges and length leave it; false if one has no cycle. */
-    private boolean findWindows(int length) {
+    /** Finds what the cycles on trial leave to each instruction; false if that is a dead end. */
+    private boolean leavesChance(int length) {
+        openWindows(length);
+        for (int round = 0; round < MAX_ROUNDS; round++) {
+            if (!narrowByEdges()) {
+                return false;
+            }
+            int moved = narrowByStretches();
+            if (moved <= 0) {
+                return moved == 0;
+            }
+        }
+        return true;
+    }
+
+    private void openWindows(int length) {
         for (int i = 0; i < n; i++) {
             boolean free = trial[i] == UNSET;
             earliest[i] = free ? 0 : trial[i];
             latest[i] = free ? length - latencyOf(i) : trial[i];
         }
+    }
+
+    /** False if an instruction has no cycle left. */
+    private boolean narrowByEdges() {
         for (int j = 0; j < n; j++) {
             for (int i = 0; i < j; i++) {
                 int wait = delay[i * MAX_INSTR + j];
@@ -428,25 +447,32 @@ public final class BlockSchedOpt {
         return true;
     }
 
-    /** The bundle rules once every cycle is on trial; before that, a way to see dead ends early. */
-    private boolean hasCrowdedStretch() {
+    /**
+     * How many windows it moved; CROWDED if more instructions must go into a stretch of cycles
+     * than the machine can issue there. With all cycles on trial that is the rule for bundles.
+     */
+    private int narrowByStretches() {
+        int moved = 0;
         for (int i = 0; i < n; i++) {
             for (int j = 0; j < n; j++) {
                 int first = earliest[i];
                 int last = latest[j];
-                if (first <= last
-                        && (isCrowded(first, last, UNIT_ISSUE)
-                                || isCrowded(first, last, UNIT_MEMORY)
-                                || isCrowded(first, last, UNIT_MULTIPLIER))) {
-                    return true;
+                for (int unit = UNIT_ISSUE; first <= last && unit <= UNIT_MULTIPLIER; unit++) {
+                    int spare = spareRoom(first, last, unit);
+                    if (spare < 0) {
+                        return CROWDED;
+                    }
+                    if (spare == 0) {
+                        moved += keepOut(first, last, unit);
+                    }
                 }
             }
         }
-        return false;
+        return moved;
     }
 
-    /** Whether more must use the unit from cycle first to cycle last than it can take there. */
-    private boolean isCrowded(int first, int last, int unit) {
+    /** What those that must issue from cycle first to cycle last leave of the unit there. */
+    private int spareRoom(int first, int last, int unit) {
         int needed = 0;
         for (int i = 0; i < n; i++) {
             if (earliest[i] >= first && latest[i] <= last && uses(i, unit)) {
@@ -458,7 +484,7 @@ public final class BlockSchedOpt {
         if (unit != UNIT_ISSUE && needed > 0) {
             room -= bundlesFullWithout(first, last, unit);
         }
-        return needed > room;
+        return room - needed;
     }
 
     private int bundlesFullWithout(int first, int last, int unit) {
@@ -473,6 +499,24 @@ public final class BlockSchedOpt {
             }
         }
         return full;
+    }
+
+    /** A stretch without spare room is closed to all that could also issue outside it. */
+    private int keepOut(int first, int last, int unit) {
+        int moved = 0;
+        for (int i = 0; i < n; i++) {
+            boolean startsInside = earliest[i] >= first && earliest[i] <= last;
+            boolean endsInside = latest[i] >= first && latest[i] <= last;
+            if (uses(i, unit) && startsInside != endsInside) {
+                if (startsInside) {
+                    earliest[i] = last + 1;
+                } else {
+                    latest[i] = first - 1;
+                }
+                moved++;
+            }
+        }
+        return moved;
     }
 
     private boolean hasUnset() {
