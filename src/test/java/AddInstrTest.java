@@ -2,95 +2,199 @@
 public final class AddInstrTest {
     private static final int MIN = Integer.MIN_VALUE;
     private static final int MAX = Integer.MAX_VALUE;
+    private static final int[] BAD_REGISTERS = {MIN, -1, 8, 16, MAX};
+    private static final int[] ANY = {MIN, MIN + 1, -9, -1, 0, 7, 8, 32, 100, MAX};
 
     public static void main(String[] args) {
         Due due = new Due();
-        wrongInputsAreRefused(due);
-        freeFieldsTakeAnyInt(due);
-        edgesOfRegistersAreTaken(due);
+        fullBlock(due);
+        badOpcode(due);
+        badD(due);
+        badA(due);
+        badB(due);
+        severalConditionsAtOnce(due);
+        refusalsLeaveTheNextNumber(due);
         numbersGoUpToNine(due);
+        newInstructionIsUnset(due);
+        ldiTakesAnyA(due);
+        ldiIgnoresB(due);
+        memoryOpsTakeAnyB(due);
+        edgesOfRegistersAreTaken(due);
         theRestIsUnchanged(due);
         due.end();
     }
 
-    private static void refuse(Due due, BlockSchedOpt x, int op, int d, int a, int b) {
-        int[] before = Look.everything(x);
+    private static void refuse(Due due, int op, int d, int a, int b) {
         String call = "addInstr(" + op + ", " + d + ", " + a + ", " + b + ")";
-        due.is(call, x.addInstr(op, d, a, b), -1);
-        due.same("after " + call, Look.everything(x), before);
+        States.refused(due, call, -1, x -> x.addInstr(op, d, a, b));
     }
 
-    private static void wrongInputsAreRefused(Due due) {
-        BlockSchedOpt x = Look.block(2, 2, 1, 0, 5, 0);
-        x.setCycle(0, 3);
-        x.run();
-        int[] badRegisters = {MIN, -1, 8, 16, MAX};
+    // '1. n == MAX_INSTR (the block is full)'
+    private static void fullBlock(Due due) {
+        for (States.State state : States.ALL) {
+            if (state.n() == BlockSchedOpt.MAX_INSTR) {
+                for (int op = 1; op <= 6; op++) {
+                    BlockSchedOpt x = state.make();
+                    due.is("addInstr of op " + op + ", " + state.name(), x.addInstr(op, 0, 1, 2), -1);
+                    due.same("after it", Look.whole(x), Look.whole(state.make()));
+                }
+            }
+        }
+    }
+
+    // '2. op is not in 1..6'
+    private static void badOpcode(Due due) {
         for (int op : new int[] {MIN, -1, 0, 7, 8, MAX}) {
-            refuse(due, x, op, 0, 0, 0);
+            refuse(due, op, 0, 0, 0);
         }
-        for (int bad : badRegisters) {
-            for (int op = 1; op <= 6; op++) {
-                refuse(due, x, op, bad, 0, 0);
-            }
-            for (int op = 2; op <= 6; op++) {
-                refuse(due, x, op, 0, bad, 0);
-            }
-            for (int op = 2; op <= 4; op++) {
-                refuse(due, x, op, 0, 0, bad);
-            }
-        }
-        due.is("the next number after refusals", x.addInstr(1, 0, 0, 0), 1);
     }
 
-    private static void freeFieldsTakeAnyInt(Due due) {
-        for (int any : new int[] {MIN, -9, -1, 8, 100, MAX}) {
+    // '3. d is not in 0..7'
+    private static void badD(Due due) {
+        for (int op = 1; op <= 6; op++) {
+            for (int bad : BAD_REGISTERS) {
+                refuse(due, op, bad, 0, 0);
+            }
+        }
+    }
+
+    // '4. op is ADD, SUB, MUL, LOAD or STORE and a is not in 0..7'
+    private static void badA(Due due) {
+        for (int op = 2; op <= 6; op++) {
+            for (int bad : BAD_REGISTERS) {
+                refuse(due, op, 0, bad, 0);
+            }
+        }
+    }
+
+    // '5. op is ADD, SUB or MUL and b is not in 0..7'
+    private static void badB(Due due) {
+        for (int op = 2; op <= 4; op++) {
+            for (int bad : BAD_REGISTERS) {
+                refuse(due, op, 0, 0, bad);
+            }
+        }
+    }
+
+    // 'the first that holds refuses the call with -1 and changes nothing'
+    private static void severalConditionsAtOnce(Due due) {
+        refuse(due, 0, 8, 8, 8);
+        refuse(due, 7, -1, 0, 0);
+        refuse(due, 7, 0, -1, 0);
+        refuse(due, 1, 8, 8, 8);
+        refuse(due, 2, -1, 8, 0);
+        refuse(due, 3, 0, MIN, MAX);
+        refuse(due, 4, MAX, 0, MIN);
+        refuse(due, 5, 8, 8, 8);
+        refuse(due, 6, -1, -1, -1);
+        refuse(due, MAX, MAX, MAX, MAX);
+        refuse(due, MIN, MIN, MIN, MIN);
+    }
+
+    private static void refusalsLeaveTheNextNumber(Due due) {
+        BlockSchedOpt x = new BlockSchedOpt(1, 1);
+        for (int i = 0; i < 10; i++) {
+            due.is("addInstr of op 0 before number " + i, x.addInstr(0, 0, 0, 0), -1);
+            due.is("addInstr of d 8 before number " + i, x.addInstr(1, 8, 0, 0), -1);
+            due.is("number " + i, x.addInstr(1, 0, 0, 0), i);
+        }
+        due.is("addInstr beyond ten", x.addInstr(1, 0, 0, 0), -1);
+    }
+
+    // 'the old n is answered (0 for the first instruction, up to 9)'
+    private static void numbersGoUpToNine(Due due) {
+        for (int op = 1; op <= 6; op++) {
+            BlockSchedOpt x = new BlockSchedOpt(1, 1);
+            for (int i = 0; i < 10; i++) {
+                due.is("number " + i + " of op " + op, x.addInstr(op, i % 8, 1, 2), i);
+            }
+            due.is("number 10 of op " + op, x.addInstr(op, 0, 1, 2), -1);
+            due.is("and again", x.addInstr(op, 0, 1, 2), -1);
+            due.is("length of the ten", x.schedule() >= 5, true);
+        }
+    }
+
+    // 'becomes number n with cycle -1 (unset)'
+    private static void newInstructionIsUnset(Due due) {
+        for (States.State state : States.ALL) {
+            if (state.n() < BlockSchedOpt.MAX_INSTR) {
+                BlockSchedOpt x = state.make();
+                due.is("addInstr, " + state.name(), x.addInstr(6, 7, 7, 7), state.n());
+                due.is("its cycle, " + state.name(), x.cycleOf(state.n()), -1);
+                due.is("check() with it, " + state.name(), x.check(), BlockSchedOpt.CHK_UNSET);
+            }
+        }
+    }
+
+    // 'For LDI any int a is accepted'
+    private static void ldiTakesAnyA(Due due) {
+        for (int any : ANY) {
             BlockSchedOpt x = new BlockSchedOpt(2, 2);
             due.is("LDI with a " + any, x.addInstr(1, 0, any, 0), 0);
-            due.is("LDI with b " + any, x.addInstr(1, 1, 0, any), 1);
-            due.is("LOAD with b " + any, x.addInstr(5, 2, 7, any), 2);
-            due.is("STORE with b " + any, x.addInstr(6, 3, 7, any), 3);
             x.schedule();
             x.run();
-            due.is("LDI writes a", x.seqValue(0), any);
-            due.is("LDI ignores b", x.seqValue(1), 0);
+            due.is("what the LDI wrote in order", x.seqValue(0), any);
+            due.is("what the LDI wrote on the machine", x.machValue(0), any);
+        }
+    }
+
+    // 'and b is ignored, whatever its value'
+    private static void ldiIgnoresB(Due due) {
+        for (int any : ANY) {
+            BlockSchedOpt x = new BlockSchedOpt(2, 2);
+            due.is("LDI with b " + any, x.addInstr(1, 0, 5, any), 0);
+            due.is("LDI with a and b " + any, x.addInstr(1, 1, any, any), 1);
+            due.same("edges between them", new int[] {x.edgeKinds(0, 1), x.edgeDelay(0, 1)}, new int[] {0, -1});
+            due.is("schedule() of them", x.schedule(), 1);
+            x.run();
+            due.is("what the first wrote", x.seqValue(0), 5);
+            due.is("what the second wrote", x.machValue(1), any);
+        }
+    }
+
+    // 'for LOAD and STORE any int b is accepted'
+    private static void memoryOpsTakeAnyB(Due due) {
+        for (int any : ANY) {
+            BlockSchedOpt x = new BlockSchedOpt(2, 2);
+            due.is("LOAD with b " + any, x.addInstr(5, 2, 7, any), 0);
+            due.is("STORE with b " + any, x.addInstr(6, 3, 7, any), 1);
+            int word = 8 + Math.floorMod(any, 8);
+            x.setInit(word, 66);
+            x.setInit(3, 77);
+            x.schedule();
+            x.run();
+            due.is("what the LOAD read", x.seqValue(2), 66);
+            due.is("what the STORE wrote", x.seqValue(word), 77);
         }
     }
 
     private static void edgesOfRegistersAreTaken(Due due) {
         for (int op = 1; op <= 6; op++) {
-            BlockSchedOpt x = new BlockSchedOpt(2, 2);
-            due.is("op " + op + " with 0s", x.addInstr(op, 0, 0, 0), 0);
-            due.is("op " + op + " with 7s", x.addInstr(op, 7, 7, 7), 1);
+            for (int code = 0; code < 8; code++) {
+                BlockSchedOpt x = new BlockSchedOpt(2, 2);
+                int d = (code & 1) * 7;
+                int a = (code >> 1 & 1) * 7;
+                int b = (code >> 2 & 1) * 7;
+                due.is("addInstr(" + op + ", " + d + ", " + a + ", " + b + ")", x.addInstr(op, d, a, b), 0);
+            }
         }
     }
 
-    private static void numbersGoUpToNine(Due due) {
-        BlockSchedOpt x = new BlockSchedOpt(1, 1);
-        for (int i = 0; i < 10; i++) {
-            due.is("number " + i, x.addInstr(1 + i % 6, i % 8, 1, 2), i);
-            due.is("new cycle " + i, x.cycleOf(i), -1);
-        }
-        refuse(due, x, 1, 0, 0, 0);
-        refuse(due, x, 0, 9, 9, 9);
-        x.schedule();
-        refuse(due, x, 2, 1, 1, 1);
-    }
-
+    // 'Cycles of earlier instructions, initial values and result values are unchanged.'
     private static void theRestIsUnchanged(Due due) {
-        BlockSchedOpt x = Look.block(2, 2, 1, 0, 5, 0, 1, 1, 6, 0);
-        x.setInit(4, 44);
-        Look.setCycles(x, 7, 63);
-        x.run();
-        int[] values = Look.machine(x);
-        x.addInstr(1, 2, 7, 0);
-        due.same("cycles after addInstr", Look.cycles(x, 3), new int[] {7, 63, -1});
-        due.same("values after addInstr", Look.machine(x), values);
-        due.is("run() with the new one unset", x.run(), -1);
-        x.setCycle(2, 0);
-        x.run();
-        due.is("initial value after addInstr", x.seqValue(4), 44);
-        x.clear();
-        Look.add(x, 1, 3, 1, 0);
-        due.is("cycle of a number used before", x.cycleOf(0), -1);
+        for (States.State state : States.ALL) {
+            BlockSchedOpt x = state.make();
+            BlockSchedOpt without = state.make();
+            x.addInstr(1, 2, 7, 0);
+            due.same("cycles after addInstr, " + state.name(),
+                    Look.cycles(x, state.n()), Look.cycles(without, state.n()));
+            due.same("sequential after addInstr, " + state.name(), Look.sequential(x), Look.sequential(without));
+            due.same("machine after addInstr, " + state.name(), Look.machine(x), Look.machine(without));
+            for (int j = 1; j < state.n(); j++) {
+                due.is("edge to " + j + ", " + state.name(), x.edgeKinds(j - 1, j), without.edgeKinds(j - 1, j));
+            }
+            due.same("initial after addInstr, " + state.name(), Look.initial(x), Look.initial(without));
+            due.same("latencies after addInstr, " + state.name(), Look.latencies(x), Look.latencies(without));
+        }
     }
 }

@@ -1,9 +1,13 @@
 /** Promise 12: bundle contents. */
 public final class BundleTest {
+    private static final int[] WRONG = {Integer.MIN_VALUE, -2, -1, 64, 65, Integer.MAX_VALUE};
+
     public static void main(String[] args) {
         Due due = new Due();
         ascendingIndex(due);
-        outsideIsNoOp(due);
+        cyclesOutside(due);
+        slotsBelowZero(due);
+        slotsBeyondTheBundle(due);
         unsetIsInNoBundle(due);
         tenInOneCycle(due);
         nothingChanges(due);
@@ -25,6 +29,7 @@ public final class BundleTest {
         }
     }
 
+    // 'among the instructions with c(i) == cycle, in ascending index, the one at position slot'
     private static void ascendingIndex(Due due) {
         BlockSchedOpt x = ten();
         Look.setCycles(x, 63, 0, 5, 0, 5, 63, 5, 5, 1, 0);
@@ -36,22 +41,53 @@ public final class BundleTest {
         expect(due, x, 63, 0, 5);
     }
 
-    private static void outsideIsNoOp(Due due) {
-        BlockSchedOpt x = ten();
-        Look.setCycles(x, 0, 0, 0, 63, 63, 63);
-        int[] wrong = {Integer.MIN_VALUE, -2, -1, 64, 65, Integer.MAX_VALUE};
-        for (int cycle : wrong) {
-            for (int slot = 0; slot < 12; slot++) {
-                due.is("bundleAt(" + cycle + ", " + slot + ")", x.bundleAt(cycle, slot), -1);
+    // 'It answers -1 if cycle is not in 0..63'
+    private static void cyclesOutside(Due due) {
+        for (int cycle : WRONG) {
+            for (int slot : new int[] {0, 1, 2, 9, 10}) {
+                String call = "bundleAt(" + cycle + ", " + slot + ")";
+                States.refused(due, call, -1, x -> x.bundleAt(cycle, slot));
             }
         }
-        for (int slot : wrong) {
-            due.is("bundleAt(0, " + slot + ")", x.bundleAt(0, slot), -1);
-            due.is("bundleAt(63, " + slot + ")", x.bundleAt(63, slot), -1);
+    }
+
+    // 'slot < 0'
+    private static void slotsBelowZero(Due due) {
+        for (int slot : new int[] {Integer.MIN_VALUE, -64, -2, -1}) {
+            for (int cycle : new int[] {-1, 0, 5, 63, 64}) {
+                String call = "bundleAt(" + cycle + ", " + slot + ")";
+                States.refused(due, call, -1, x -> x.bundleAt(cycle, slot));
+            }
+        }
+    }
+
+    // 'or there are not more than slot such instructions (a no-op)'
+    private static void slotsBeyondTheBundle(Due due) {
+        for (int held = 0; held <= 10; held++) {
+            for (int cycle : new int[] {0, 1, 62, 63}) {
+                BlockSchedOpt x = ten();
+                for (int i = 0; i < 10; i++) {
+                    x.setCycle(i, i < held ? cycle : 30);
+                }
+                for (int slot = 0; slot <= 11; slot++) {
+                    int want = slot < held ? slot : -1;
+                    due.is("bundleAt(" + cycle + ", " + slot + ") of " + held, x.bundleAt(cycle, slot), want);
+                }
+                for (int slot : new int[] {64, Integer.MAX_VALUE}) {
+                    due.is("bundleAt(" + cycle + ", " + slot + ") of " + held, x.bundleAt(cycle, slot), -1);
+                }
+            }
+        }
+        for (int slot : new int[] {10, 11, Integer.MAX_VALUE}) {
+            for (int cycle : new int[] {0, 5, 63}) {
+                String call = "bundleAt(" + cycle + ", " + slot + ")";
+                States.refused(due, call, -1, x -> x.bundleAt(cycle, slot));
+            }
         }
         due.is("bundleAt of an empty block", new BlockSchedOpt(1, 1).bundleAt(0, 0), -1);
     }
 
+    // 'Unset instructions are in no bundle.'
     private static void unsetIsInNoBundle(Due due) {
         BlockSchedOpt x = ten();
         for (int cycle = -2; cycle <= 65; cycle++) {
@@ -68,12 +104,22 @@ public final class BundleTest {
         expect(due, x, 0);
     }
 
+    // 'When cycles set by hand put more than two instructions into one cycle, slots 2 and beyond answer
+    // those further instructions.'
     private static void tenInOneCycle(Due due) {
-        BlockSchedOpt x = ten();
-        Look.setCycles(x, 9, 9, 9, 9, 9, 9, 9, 9, 9, 9);
-        expect(due, x, 9, 0, 1, 2, 3, 4, 5, 6, 7, 8, 9);
+        for (int cycle = 0; cycle <= 63; cycle++) {
+            BlockSchedOpt x = ten();
+            for (int i = 0; i < 10; i++) {
+                x.setCycle(i, cycle);
+            }
+            expect(due, x, cycle, 0, 1, 2, 3, 4, 5, 6, 7, 8, 9);
+            x.setCycle(0, -1);
+            x.setCycle(5, -1);
+            expect(due, x, cycle, 1, 2, 3, 4, 6, 7, 8, 9);
+        }
     }
 
+    // 'It changes nothing.'
     private static void nothingChanges(Due due) {
         BlockSchedOpt x = ten();
         x.schedule();
@@ -82,5 +128,12 @@ public final class BundleTest {
         x.bundleAt(0, 0);
         x.bundleAt(-1, 99);
         due.same("after bundleAt", Look.everything(x), before);
+        for (int cycle : new int[] {0, 5, 63}) {
+            for (int slot = 0; slot < 3; slot++) {
+                int at = slot;
+                States.unchanged(due, "bundleAt(" + cycle + ", " + slot + ")",
+                        state -> state.make().bundleAt(cycle, at), y -> y.bundleAt(cycle, at));
+            }
+        }
     }
 }

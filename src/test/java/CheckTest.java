@@ -2,8 +2,12 @@
 public final class CheckTest {
     public static void main(String[] args) {
         Due due = new Due();
+        emptyBlock(due);
+        someCycleUnset(due);
         eachAnswer(due);
         theFirstConditionWins(due);
+        everyTwoConditionsAtOnce(due);
+        widthInEveryCycle(due);
         delaysToTheCycle(due);
         lengthCountsLatency(due);
         nothingChanges(due);
@@ -14,6 +18,31 @@ public final class CheckTest {
     private static void expect(Due due, String what, int want, BlockSchedOpt x, int... cycles) {
         Look.setCycles(x, cycles);
         due.is("check() of " + what, x.check(), want);
+    }
+
+    // '1. n == 0: CHK_EMPTY (-1)'
+    private static void emptyBlock(Due due) {
+        for (States.State state : States.ALL) {
+            BlockSchedOpt x = state.make();
+            x.clear();
+            due.is("check() when empty, " + state.name(), x.check(), BlockSchedOpt.CHK_EMPTY);
+        }
+    }
+
+    // '2. some cycle is -1: CHK_UNSET (-2)'
+    private static void someCycleUnset(Due due) {
+        for (int n = 1; n <= 10; n++) {
+            for (int i = 0; i < n; i++) {
+                BlockSchedOpt x = new BlockSchedOpt(1, 1);
+                for (int k = 0; k < n; k++) {
+                    x.addInstr(1, 0, 0, 0);
+                    x.setCycle(k, k);
+                }
+                due.is("check() of " + n + " with all set", x.check(), n);
+                x.setCycle(i, -1);
+                due.is("check() of " + n + " with " + i + " unset", x.check(), BlockSchedOpt.CHK_UNSET);
+            }
+        }
     }
 
     private static void eachAnswer(Due due) {
@@ -43,6 +72,56 @@ public final class CheckTest {
         expect(due, "none of them", 8, Look.block(1, 1, all), 0, 1, 5, 6, 7);
     }
 
+    // 'The conditions are taken in order; the first that holds gives the answer'
+    private static void everyTwoConditionsAtOnce(Due due) {
+        // Three LDIs, two LOADs, two MULs, and an ADD that reads what the first MUL writes: each
+        // group can have its fault without the others.
+        int[] fields = {1, 0, 1, 0, 1, 1, 1, 0, 1, 2, 1, 0, 5, 3, 7, 0, 5, 4, 7, 0, 4, 5, 7, 7, 4, 6, 7, 7,
+            2, 0, 5, 5};
+        int[] right = {0, 0, 1, 10, 11, 20, 21, 40};
+        int[][] wrong = {{7, -1}, {7, 22}, {2, 0}, {4, 10}, {6, 20}};
+        int[] answers = {BlockSchedOpt.CHK_UNSET, BlockSchedOpt.CHK_DEP, BlockSchedOpt.CHK_WIDTH,
+            BlockSchedOpt.CHK_MEM, BlockSchedOpt.CHK_MUL};
+        expect(due, "none of them", 41, Look.block(3, 1, fields), right);
+        for (int faults = 1; faults < 32; faults++) {
+            BlockSchedOpt x = Look.block(3, 1, fields);
+            Look.setCycles(x, right);
+            int want = 0;
+            for (int f = 4; f >= 0; f--) {
+                if ((faults >> f & 1) != 0) {
+                    x.setCycle(wrong[f][0], wrong[f][1]);
+                    want = answers[f];
+                }
+            }
+            due.is("check() with faults " + Integer.toBinaryString(faults), x.check(), want);
+        }
+    }
+
+    // '4. some cycle holds more than 2 instructions', '5. .. more than one memory op', '6. .. more than one MUL'
+    private static void widthInEveryCycle(Due due) {
+        for (int c = 0; c <= 63; c++) {
+            BlockSchedOpt ldis = Look.block(1, 1, 1, 0, 1, 0, 1, 1, 1, 0, 1, 2, 1, 0);
+            expect(due, "three at " + c, BlockSchedOpt.CHK_WIDTH, ldis, c, c, c);
+            int other = c == 0 ? 1 : c - 1;
+            expect(due, "two at " + c, Math.max(c, other) + 1, ldis, c, other, c);
+            BlockSchedOpt loads = Look.block(1, 1, 5, 0, 7, 0, 5, 1, 7, 0);
+            expect(due, "two LOADs at " + c, BlockSchedOpt.CHK_MEM, loads, c, c);
+            expect(due, "one LOAD at " + c, Math.max(c, other) + 1, loads, c, other);
+            BlockSchedOpt muls = Look.block(1, 1, 4, 0, 7, 7, 4, 1, 7, 7);
+            expect(due, "two MULs at " + c, BlockSchedOpt.CHK_MUL, muls, c, c);
+            expect(due, "one MUL at " + c, Math.max(c, other) + 1, muls, c, other);
+        }
+        BlockSchedOpt x = new BlockSchedOpt(1, 1);
+        for (int i = 0; i < 8; i++) {
+            x.addInstr(1, i, 0, 0);
+            x.setCycle(i, 63);
+        }
+        due.is("check() of eight at 63", x.check(), BlockSchedOpt.CHK_WIDTH);
+        Look.setCycles(x, 0, 63, 1, 62, 0, 63, 1, 62);
+        due.is("check() of eight in pairs", x.check(), 64);
+    }
+
+    // '3. some edge i->j has c(j) < c(i) + delay(i,j): CHK_DEP (-3)'
     private static void delaysToTheCycle(Due due) {
         int[] trueEdge = {4, 0, 7, 7, 2, 1, 0, 0};
         expect(due, "true, one too early", -3, Look.block(3, 1, trueEdge), 10, 12);
@@ -57,8 +136,20 @@ public final class CheckTest {
         expect(due, "stores in one cycle", -3, Look.block(1, 1, stores), 10, 10);
         expect(due, "stores one after the other", 12, Look.block(1, 1, stores), 10, 11);
         expect(due, "a later writer before an earlier", -3, Look.block(1, 1, stores), 63, 0);
+        int[] storeLoad = {6, 0, 7, 0, 5, 1, 7, 0};
+        expect(due, "STORE and LOAD in one cycle", -3, Look.block(1, 4, storeLoad), 10, 10);
+        expect(due, "LOAD just after STORE", 15, Look.block(1, 4, storeLoad), 10, 11);
+        int[] loadStore = {5, 1, 7, 0, 6, 0, 7, 0};
+        expect(due, "STORE before LOAD", -3, Look.block(1, 4, loadStore), 10, 9);
+        // The anti edge allows one cycle for both; the memory port does not.
+        expect(due, "LOAD and STORE in one cycle", -5, Look.block(1, 4, loadStore), 10, 10);
+        // The true edge would have the reader past the last cycle.
+        expect(due, "a reader at 63 too early", -3, Look.block(4, 1, trueEdge), 60, 63);
+        expect(due, "a reader at 63 just in time", 64, Look.block(4, 1, trueEdge), 59, 63);
+        expect(due, "a reader that would have to wait past 63", -3, Look.block(4, 1, trueEdge), 63, 63);
     }
 
+    // 'Otherwise the schedule is valid and its length (>= 1) is answered.'
     private static void lengthCountsLatency(Due due) {
         expect(due, "one LDI", 1, Look.block(4, 4, 1, 0, 1, 0), 0);
         expect(due, "one STORE", 1, Look.block(4, 4, 6, 0, 1, 0), 0);
@@ -67,6 +158,7 @@ public final class CheckTest {
         expect(due, "a MUL that outlasts a later LDI", 7, Look.block(4, 3, 4, 0, 7, 7, 1, 1, 1, 0), 3, 5);
     }
 
+    // 'check() examines the current cycles and changes nothing.'
     private static void nothingChanges(Due due) {
         BlockSchedOpt x = Look.block(2, 3, 5, 0, 7, 0, 4, 1, 0, 0, 6, 1, 7, 0);
         Look.setCycles(x, 0, 1, 2);
@@ -75,8 +167,10 @@ public final class CheckTest {
         x.check();
         x.check();
         due.same("after check()", Look.everything(x), before);
+        States.unchanged(due, "check()", state -> state.make().check(), block -> block.check());
     }
 
+    // 'Whenever check() would answer a positive L, run() answers 0 and afterwards seqValue(x) == machValue(x)'
     private static void validSchedulesRunAsInOrder(Due due) {
         Numbers numbers = new Numbers(7);
         int valid = 0;

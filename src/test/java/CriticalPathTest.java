@@ -2,7 +2,10 @@
 public final class CriticalPathTest {
     public static void main(String[] args) {
         Due due = new Due();
+        emptyBlock(due);
+        chainOfOne(due);
         knownBlocks(due);
+        longestChain(due);
         nothingMatters(due);
         mixedBlocks(due);
         due.end();
@@ -10,6 +13,53 @@ public final class CriticalPathTest {
 
     private static void expect(Due due, String what, int want, int... fields) {
         due.is("criticalPath() of " + what, Look.block(3, 4, fields).criticalPath(), want);
+    }
+
+    // 'criticalPath() answers 0 if n == 0.'
+    private static void emptyBlock(Due due) {
+        for (States.State state : States.ALL) {
+            BlockSchedOpt x = state.make();
+            x.clear();
+            due.is("criticalPath() when empty, " + state.name(), x.criticalPath(), 0);
+        }
+    }
+
+    // 'A chain of one instruction counts, so with n >= 1 the answer is at least 1.'
+    private static void chainOfOne(Due due) {
+        for (int latency = 1; latency <= 4; latency++) {
+            int[] want = {0, 1, 1, 1, latency, 5 - latency, 1};
+            for (int op = 1; op <= 6; op++) {
+                BlockSchedOpt x = Look.block(latency, 5 - latency, op, 3, 3, 3);
+                due.is("criticalPath() of one of op " + op, x.criticalPath(), want[op]);
+                // Others without an edge do not make it longer, wherever they stand.
+                BlockSchedOpt among = Look.block(latency, 5 - latency, 1, 0, 0, 0, op, 3, 3, 3, 1, 1, 0, 0);
+                due.is("criticalPath() of op " + op + " among others", among.criticalPath(), want[op]);
+            }
+        }
+        for (States.State state : States.ALL) {
+            if (state.n() >= 1) {
+                due.is("criticalPath() at least 1, " + state.name(), state.make().criticalPath() >= 1, true);
+            }
+        }
+    }
+
+    // The chain of all ten, with the greatest delays and with the least.
+    private static void longestChain(Due due) {
+        for (int latency = 1; latency <= 4; latency++) {
+            BlockSchedOpt muls = new BlockSchedOpt(latency, 1);
+            BlockSchedOpt loads = new BlockSchedOpt(1, latency);
+            BlockSchedOpt anti = new BlockSchedOpt(latency, 1);
+            for (int i = 0; i < 10; i++) {
+                muls.addInstr(4, 0, 0, 0);
+                loads.addInstr(5, 0, 0, 0);
+                due.is("criticalPath() of MULs up to " + i, muls.criticalPath(), latency * (i + 1));
+                due.is("criticalPath() of LOADs up to " + i, loads.criticalPath(), latency * (i + 1));
+            }
+            for (int r = 0; r < 7; r++) {
+                anti.addInstr(4, r, r + 1, r + 1);
+            }
+            due.is("criticalPath() of a chain of anti edges", anti.criticalPath(), latency);
+        }
     }
 
     private static void knownBlocks(Due due) {
@@ -30,6 +80,7 @@ public final class CriticalPathTest {
         expect(due, "a chain in the middle", 7, 1, 0, 0, 0, 4, 1, 7, 7, 1, 2, 0, 0, 5, 3, 1, 0, 1, 4, 0, 0);
     }
 
+    // 'It depends only on the instructions and the latencies, not on cycles, and changes nothing.'
     private static void nothingMatters(Due due) {
         BlockSchedOpt x = Look.block(3, 2, 5, 0, 1, 0, 4, 2, 0, 0, 6, 2, 1, 0);
         due.is("criticalPath()", x.criticalPath(), 6);
@@ -46,6 +97,7 @@ public final class CriticalPathTest {
         due.is("criticalPath() with one more behind", x.criticalPath(), 8);
         x.clear();
         due.is("criticalPath() after clear()", x.criticalPath(), 0);
+        States.unchanged(due, "criticalPath()", state -> state.make().criticalPath(), y -> y.criticalPath());
     }
 
     private static void mixedBlocks(Due due) {

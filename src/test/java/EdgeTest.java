@@ -8,6 +8,8 @@ public final class EdgeTest {
         outputDelays(due);
         severalKinds(due);
         noPair(due);
+        noPairInAnyState(due);
+        pairsUpToTheLast(due);
         cyclesAndValuesDoNotMatter(due);
         everyPairOfInstructions(due);
         due.end();
@@ -52,10 +54,31 @@ public final class EdgeTest {
         expect(due, "a LOAD's offset like a register", 0, -1, 1, 3, 0, 0, 5, 4, 0, 3);
         expect(due, "a STORE's offset like a register", 0, -1, 1, 3, 0, 0, 6, 4, 0, 3);
         expect(due, "a STORE's d is not written", 0, -1, 6, 3, 0, 0, 2, 4, 3, 3);
+        // Numbers that are like register 3 in their low bits alone.
+        for (int like : new int[] {3, 11, 35, 67, 3 - 32, 3 - 8, Integer.MIN_VALUE + 3}) {
+            expect(due, "immediate " + like, 0, -1, 1, 3, 0, 0, 1, 4, like, like);
+            expect(due, "immediate " + like + " first", 0, -1, 1, 4, like, like, 1, 3, 0, 0);
+            expect(due, "LOAD's offset " + like, 0, -1, 1, 3, 0, 0, 5, 4, 0, like);
+            expect(due, "STORE's offset " + like, 0, -1, 1, 3, 0, 0, 6, 4, 0, like);
+            expect(due, "LOAD's offset " + like + " first", 0, -1, 5, 4, 0, like, 1, 3, 0, 0);
+            expect(due, "STORE's offset " + like + " first", 0, -1, 6, 4, 0, like, 1, 3, 0, 0);
+        }
     }
 
+    // 'EDGE_OUTPUT .. Required distance: max(1, lat(i) - lat(j) + 1)'
     private static void outputDelays(Due due) {
         int[] latency = {0, 1, 1, 1, 3, 4};
+        for (int mulLatency = 1; mulLatency <= 4; mulLatency++) {
+            for (int loadLatency = 1; loadLatency <= 4; loadLatency++) {
+                String at = " at latencies " + mulLatency + ", " + loadLatency;
+                BlockSchedOpt x = Look.block(mulLatency, loadLatency, 4, 0, 6, 6, 5, 0, 7, 7, 4, 0, 6, 6, 1, 0, 7, 7);
+                due.is("edgeDelay of MUL and LOAD" + at, x.edgeDelay(0, 1), Math.max(1, mulLatency - loadLatency + 1));
+                due.is("edgeDelay of LOAD and MUL" + at, x.edgeDelay(1, 2), Math.max(1, loadLatency - mulLatency + 1));
+                due.is("edgeDelay of MUL and MUL" + at, x.edgeDelay(0, 2), 1);
+                due.is("edgeDelay of MUL and LDI" + at, x.edgeDelay(2, 3), mulLatency);
+                due.is("edgeDelay of LOAD and LDI" + at, x.edgeDelay(1, 3), loadLatency);
+            }
+        }
         for (int first = 1; first <= 5; first++) {
             for (int second = 1; second <= 5; second++) {
                 int delay = Math.max(1, latency[first] - latency[second] + 1);
@@ -72,6 +95,8 @@ public final class EdgeTest {
         expect(due, "true and anti", 3, 3, 4, 0, 1, 1, 2, 1, 0, 0);
     }
 
+    // 'It answers 0 unless 0 <= i < j < n; in particular 0 for i >= j, for negative indices and for
+    // indices at or beyond n', and edgeDelay 'otherwise -1'
     private static void noPair(Due due) {
         BlockSchedOpt x = new BlockSchedOpt(2, 2);
         due.is("edgeKinds(0, 1) while empty", x.edgeKinds(0, 1), 0);
@@ -87,6 +112,48 @@ public final class EdgeTest {
         }
     }
 
+    private static void noPairInAnyState(Due due) {
+        int[] indices = {Integer.MIN_VALUE, -1, 0, 9, 10, Integer.MAX_VALUE};
+        for (int i : indices) {
+            for (int j : indices) {
+                if (i < 0 || i >= j || j >= 10) {
+                    States.refused(due, "edgeKinds(" + i + ", " + j + ")", 0, x -> x.edgeKinds(i, j));
+                    States.refused(due, "edgeDelay(" + i + ", " + j + ")", -1, x -> x.edgeDelay(i, j));
+                }
+            }
+        }
+        for (States.State state : States.ALL) {
+            BlockSchedOpt x = state.make();
+            for (int i = -1; i <= 10; i++) {
+                due.is("edgeKinds(" + i + ", n), " + state.name(), x.edgeKinds(i, state.n()), 0);
+                due.is("edgeDelay(" + i + ", n), " + state.name(), x.edgeDelay(i, state.n()), -1);
+                due.is("edgeKinds(n, " + i + "), " + state.name(), x.edgeKinds(state.n(), i), 0);
+                due.is("edgeDelay(n, " + i + "), " + state.name(), x.edgeDelay(state.n(), i), -1);
+                due.is("edgeKinds(" + i + ", " + i + "), " + state.name(), x.edgeKinds(i, i), 0);
+                due.is("edgeDelay(" + i + ", " + i + "), " + state.name(), x.edgeDelay(i, i), -1);
+            }
+        }
+    }
+
+    // The pair of the last two, for each n; in a full block all 45 pairs.
+    private static void pairsUpToTheLast(Due due) {
+        BlockSchedOpt x = new BlockSchedOpt(2, 2);
+        for (int n = 1; n <= 10; n++) {
+            x.addInstr(2, 0, 0, 0);
+            for (int i = -1; i <= 11; i++) {
+                for (int j = -1; j <= 11; j++) {
+                    boolean pair = i >= 0 && i < j && j < n;
+                    due.is("edgeKinds(" + i + ", " + j + ") of " + n, x.edgeKinds(i, j), pair ? 7 : 0);
+                    due.is("edgeDelay(" + i + ", " + j + ") of " + n, x.edgeDelay(i, j), pair ? 1 : -1);
+                }
+            }
+        }
+        x.clear();
+        due.is("edgeKinds(0, 1) after clear()", x.edgeKinds(0, 1), 0);
+        due.is("edgeDelay(0, 1) after clear()", x.edgeDelay(0, 1), -1);
+    }
+
+    // 'Both change nothing and do not depend on cycles or values.'
     private static void cyclesAndValuesDoNotMatter(Due due) {
         BlockSchedOpt x = Look.block(2, 3, 5, 0, 1, 0, 4, 2, 0, 0, 6, 2, 1, 0);
         int[] kinds = {x.edgeKinds(0, 1), x.edgeKinds(0, 2), x.edgeKinds(1, 2)};
@@ -100,6 +167,8 @@ public final class EdgeTest {
         x.edgeKinds(0, 1);
         x.edgeDelay(0, 1);
         due.same("after edgeKinds and edgeDelay", Look.everything(x), before);
+        States.unchanged(due, "edgeKinds(0, 1)", state -> state.make().edgeKinds(0, 1), y -> y.edgeKinds(0, 1));
+        States.unchanged(due, "edgeDelay(0, 1)", state -> state.make().edgeDelay(0, 1), y -> y.edgeDelay(0, 1));
     }
 
     private static void everyPairOfInstructions(Due due) {

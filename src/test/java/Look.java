@@ -1,3 +1,4 @@
+import java.util.Arrays;
 import java.util.stream.IntStream;
 
 /** Reads and fills objects for the tests, by public calls alone. */
@@ -57,6 +58,48 @@ final class Look {
         }
         seen.add(x.check());
         seen.add(x.criticalPath());
+        return seen.build().toArray();
+    }
+
+    /** The 16 initial values; uses the object up, as they show only in runs of another block. */
+    static int[] initial(BlockSchedOpt x) {
+        int[] values = new int[16];
+        for (int written : new int[] {0, 1}) {
+            x.clear();
+            add(x, 1, written, 0, 0);
+            x.setCycle(0, 0);
+            x.run();
+            for (int loc = 0; loc < 16; loc++) {
+                if (loc != written) {
+                    values[loc] = x.seqValue(loc);
+                }
+            }
+        }
+        return values;
+    }
+
+    /** mulLatency and loadLatency; uses the object up, as they show only in other blocks. */
+    static int[] latencies(BlockSchedOpt x) {
+        x.clear();
+        add(x, 4, 0, 0, 0);
+        int mulLatency = x.criticalPath();
+        x.clear();
+        add(x, 5, 0, 0, 0);
+        return new int[] {mulLatency, x.criticalPath()};
+    }
+
+    /** All there is to know of the object, its instructions and initial values too; uses it up. */
+    static int[] whole(BlockSchedOpt x) {
+        IntStream.Builder seen = IntStream.builder();
+        Arrays.stream(everything(x)).forEach(seen::add);
+        seen.add(x.run());
+        Arrays.stream(everything(x)).forEach(seen::add);
+        seen.add(x.schedule());
+        seen.add(x.run());
+        Arrays.stream(everything(x)).forEach(seen::add);
+        seen.add(x.addInstr(1, 0, 0, 0));
+        Arrays.stream(initial(x)).forEach(seen::add);
+        Arrays.stream(latencies(x)).forEach(seen::add);
         return seen.build().toArray();
     }
 }

@@ -3,11 +3,16 @@ public final class ResultValueTest {
     public static void main(String[] args) {
         Due due = new Due();
         zeroBeforeAnyRun(due);
+        zeroAfterRefusedRunsAlone(due);
         zeroOutside(due);
+        everyLocationIsRead(due);
         onlyRunChangesThem(due);
+        aRefusedRunLeavesThem(due);
+        readingChangesNothing(due);
         due.end();
     }
 
+    // 'both answer 0 before any successful run'
     private static void zeroBeforeAnyRun(Due due) {
         BlockSchedOpt x = Look.block(1, 1, 1, 0, 5, 0);
         for (int loc = 0; loc < 16; loc++) {
@@ -17,6 +22,20 @@ public final class ResultValueTest {
         x.check();
         due.same("sequential before run()", Look.sequential(x), new int[16]);
         due.same("machine before run()", Look.machine(x), new int[16]);
+    }
+
+    private static void zeroAfterRefusedRunsAlone(Due due) {
+        BlockSchedOpt x = new BlockSchedOpt(1, 1);
+        for (int loc = 0; loc < 16; loc++) {
+            x.setInit(loc, 90 + loc);
+        }
+        x.run();
+        Look.add(x, 1, 0, 5, 0, 1, 1, 6, 0);
+        x.run();
+        x.setCycle(0, 0);
+        x.run();
+        due.same("sequential after refused runs alone", Look.sequential(x), new int[16]);
+        due.same("machine after refused runs alone", Look.machine(x), new int[16]);
     }
 
     private static BlockSchedOpt ran() {
@@ -29,11 +48,32 @@ public final class ResultValueTest {
         return x;
     }
 
+    // 'and 0 if loc is outside 0..15'
     private static void zeroOutside(Due due) {
         BlockSchedOpt x = ran();
         for (int loc : new int[] {Integer.MIN_VALUE, -16, -1, 16, 17, 32, Integer.MAX_VALUE}) {
             due.is("seqValue(" + loc + ")", x.seqValue(loc), 0);
             due.is("machValue(" + loc + ")", x.machValue(loc), 0);
+            States.refused(due, "seqValue(" + loc + ")", 0, block -> block.seqValue(loc));
+            States.refused(due, "machValue(" + loc + ")", 0, block -> block.machValue(loc));
+        }
+    }
+
+    // 'seqValue(loc) answers the sequential result value of location loc (0..15) as left by the last
+    // successful run(), and machValue(loc) the machine result value'
+    private static void everyLocationIsRead(Due due) {
+        for (int value : new int[] {Integer.MIN_VALUE, -1, 1, Integer.MAX_VALUE}) {
+            for (int loc = 0; loc < 16; loc++) {
+                int written = loc == 0 ? 1 : 0;
+                BlockSchedOpt x = Look.block(1, 1, 1, written, 0, 0);
+                x.setCycle(0, 0);
+                x.setInit(loc, value);
+                x.run();
+                int[] want = new int[16];
+                want[loc] = value;
+                due.same("sequential with " + value + " in " + loc, Look.sequential(x), want);
+                due.same("machine with " + value + " in " + loc, Look.machine(x), want);
+            }
         }
     }
 
@@ -50,6 +90,7 @@ public final class ResultValueTest {
         due.same("machine after " + after, Look.machine(x), machine);
     }
 
+    // 'clear(), setInit, setCycle, addInstr and schedule() do not alter these values'
     private static void onlyRunChangesThem(Due due) {
         BlockSchedOpt x = ran();
         stay(due, "run()", x);
@@ -77,5 +118,30 @@ public final class ResultValueTest {
         due.is("seqValue(0) after the next run()", x.seqValue(0), 4);
         due.is("seqValue(15) after the next run()", x.seqValue(15), 1);
         due.is("machValue(1) after the next run()", x.machValue(1), 91);
+    }
+
+    // 'A refused run() leaves both unchanged.'
+    private static void aRefusedRunLeavesThem(Due due) {
+        for (int i = 0; i < 2; i++) {
+            BlockSchedOpt x = ran();
+            x.setInit(9, -9);
+            x.setCycle(i, -1);
+            due.is("run() with " + i + " unset", x.run(), -1);
+            stay(due, "run() refused for " + i + " unset", x);
+        }
+        BlockSchedOpt x = ran();
+        x.setInit(9, -9);
+        x.clear();
+        due.is("run() of an empty block", x.run(), -1);
+        stay(due, "run() refused for an empty block", x);
+    }
+
+    // 'Neither changes anything'
+    private static void readingChangesNothing(Due due) {
+        for (int loc = 0; loc < 16; loc++) {
+            int k = loc;
+            States.unchanged(due, "seqValue(" + k + ")", state -> state.make().seqValue(k), x -> x.seqValue(k));
+            States.unchanged(due, "machValue(" + k + ")", state -> state.make().machValue(k), x -> x.machValue(k));
+        }
     }
 }

@@ -6,13 +6,19 @@ public final class RunTest {
     public static void main(String[] args) {
         Due due = new Due();
         refusals(due);
+        refusedInEveryStateWithUnset(due);
+        anyOneUnsetRefuses(due);
         everyOpcode(due);
         arithmeticWraps(due);
         addressesWrap(due);
         readsAtIssueWritesWhenDue(due);
         writesDueTogether(due);
+        lastCyclesAreRunToTheirEnd(due);
+        anyNumberInABundle(due);
         differencesAreCounted(due);
+        manyLocationsDiffer(due);
         runsStartAfresh(due);
+        nothingElseChanges(due);
         due.end();
     }
 
@@ -32,6 +38,39 @@ public final class RunTest {
         before = Look.everything(x);
         due.is("run() with the first unset", x.run(), -1);
         due.same("after another refused run()", Look.everything(x), before);
+    }
+
+    // 'is refused (answers -1, changes nothing) if n == 0 or some cycle is -1'
+    private static void refusedInEveryStateWithUnset(Due due) {
+        for (States.State state : States.ALL) {
+            BlockSchedOpt x = state.make();
+            boolean unset = java.util.Arrays.stream(Look.cycles(x, state.n())).anyMatch(c -> c == -1);
+            if (state.n() == 0 || unset) {
+                due.is("run(), " + state.name(), x.run(), -1);
+                due.is("run() again, " + state.name(), x.run(), -1);
+                due.same("after a refused run(), " + state.name(), Look.whole(x), Look.whole(state.make()));
+            } else {
+                int differing = x.run();
+                due.is("run() in 0..16, " + state.name(), differing >= 0 && differing <= 16, true);
+            }
+        }
+    }
+
+    private static void anyOneUnsetRefuses(Due due) {
+        BlockSchedOpt x = new BlockSchedOpt(1, 1);
+        for (int i = 0; i < 10; i++) {
+            x.addInstr(1, i % 8, 10 + i, 0);
+        }
+        for (int i = 0; i < 10; i++) {
+            x.schedule();
+            x.setCycle(i, -1);
+            due.is("run() with " + i + " alone unset", x.run(), -1);
+        }
+        due.same("values after refusals alone", Look.machine(x), new int[16]);
+        Look.setCycles(x, 0, 0, 0, 0, 0, 0, 0, 0, 1, 1);
+        due.is("run() with none unset", x.run(), 0);
+        due.is("r0", x.machValue(0), 18);
+        due.is("r7", x.machValue(7), 17);
     }
 
     private static void expectBoth(Due due, String what, BlockSchedOpt x, int loc, int want) {
@@ -59,7 +98,22 @@ public final class RunTest {
         due.same("cycles after run()", Look.cycles(x, 6), cycles);
     }
 
+    // 'All arithmetic, including addresses, wraps as Java int arithmetic does.'
     private static void arithmeticWraps(Due due) {
+        int[] values = {MIN, MIN + 1, -65536, -2, -1, 0, 1, 2, 46341, 65536, MAX - 1, MAX};
+        for (int p : values) {
+            for (int q : values) {
+                BlockSchedOpt x = Look.block(1, 1, 2, 0, 6, 7, 3, 1, 6, 7, 4, 2, 6, 7);
+                x.setInit(6, p);
+                x.setInit(7, q);
+                x.schedule();
+                due.is("run() of " + p + " and " + q, x.run(), 0);
+                // The low 32 bits of the exact result.
+                expectBoth(due, p + " + " + q, x, 0, (int) ((long) p + q));
+                expectBoth(due, p + " - " + q, x, 1, (int) ((long) p - q));
+                expectBoth(due, p + " * " + q, x, 2, (int) ((long) p * q));
+            }
+        }
         BlockSchedOpt x = Look.block(1, 1, 2, 0, 6, 6, 3, 1, 7, 6, 4, 2, 6, 6, 4, 3, 6, 7);
         x.setInit(6, MAX);
         x.setInit(7, MIN);
@@ -71,6 +125,7 @@ public final class RunTest {
         expectBoth(due, "MAX * MIN", x, 3, MIN);
     }
 
+    // 'an address is always 0..7, also when r[a] + b is negative or wraps around'
     private static void addressesWrap(Due due) {
         int[][] bases = {{0, 0, 0}, {0, 7, 7}, {0, 8, 0}, {0, -1, 7}, {-100, 3, 7}, {MAX, 1, 0},
             {MIN, -1, 7}, {MAX, MAX, 6}, {MIN, MIN, 0}, {5, 6, 3}};
@@ -141,6 +196,48 @@ public final class RunTest {
         due.is("the higher STORE stays", stores.machValue(8), 22);
     }
 
+    // 'The final state is the state after cycle T-1': a write that is due after cycle 63 too.
+    private static void lastCyclesAreRunToTheirEnd(Due due) {
+        for (int latency = 1; latency <= 4; latency++) {
+            BlockSchedOpt x = Look.block(latency, latency, 4, 0, 1, 1, 5, 2, 3, 7);
+            x.setInit(1, 5);
+            x.setInit(15, 44);
+            Look.setCycles(x, 63, 63);
+            due.is("run() at 63 with latency " + latency, x.run(), 0);
+            expectBoth(due, "MUL at 63", x, 0, 25);
+            expectBoth(due, "LOAD at 63", x, 2, 44);
+            due.is("check() at 63 with latency " + latency, x.check(), 63 + latency);
+        }
+        BlockSchedOpt store = Look.block(4, 4, 6, 1, 0, 7);
+        store.setInit(1, 5);
+        for (int c : new int[] {0, 63}) {
+            store.setCycle(0, c);
+            due.is("run() of a STORE at " + c, store.run(), 0);
+            expectBoth(due, "STORE", store, 15, 5);
+        }
+    }
+
+    // 'The machine runs any set of cycles, valid or not, however many instructions per bundle.'
+    private static void anyNumberInABundle(Due due) {
+        for (int c : new int[] {0, 31, 63}) {
+            BlockSchedOpt x = new BlockSchedOpt(2, 3);
+            // Each register takes its neighbour's value less r7's, all from before the cycle.
+            for (int r = 0; r < 8; r++) {
+                x.setInit(r, 100 + r);
+                x.addInstr(3, r, (r + 1) % 8, 7);
+            }
+            x.addInstr(6, 1, 7, 0);
+            x.addInstr(6, 2, 7, 0);
+            for (int i = 0; i < 10; i++) {
+                x.setCycle(i, c);
+            }
+            x.run();
+            due.same("ten at " + c, Look.machine(x),
+                    new int[] {-6, -5, -4, -3, -2, -1, 0, -7, 0, 0, 0, 102, 0, 0, 0, 0});
+        }
+    }
+
+    // 'answers how many of the 16 locations differ between the two (0..16)'
     private static void differencesAreCounted(Due due) {
         BlockSchedOpt x = Look.block(1, 1, 1, 0, 1, 0, 2, 1, 0, 0, 2, 2, 0, 0, 2, 3, 0, 0, 2, 4, 0, 0,
                 2, 5, 0, 0, 2, 6, 0, 0, 2, 7, 0, 0, 6, 0, 0, 0);
@@ -154,6 +251,28 @@ public final class RunTest {
         Look.setCycles(x, 9, 0, 0, 0, 0, 0, 0, 0, 0);
         due.is("run() of a schedule not valid that happens to agree", x.run(), 0);
         due.is("check() of it", x.check(), BlockSchedOpt.CHK_DEP);
+    }
+
+    // Ten instructions, each of which changes one or two locations, can make fourteen differ.
+    private static void manyLocationsDiffer(Due due) {
+        BlockSchedOpt x = new BlockSchedOpt(1, 1);
+        for (int r = 0; r < 6; r++) {
+            x.addInstr(2, r, r, r == 0 ? 5 : r - 1);
+        }
+        for (int k = 0; k < 4; k++) {
+            x.addInstr(6, 7, 0, k);
+        }
+        for (int r = 0; r < 8; r++) {
+            x.setInit(r, 4);
+        }
+        for (int i = 0; i < 10; i++) {
+            x.setCycle(i, 9 - i);
+        }
+        due.is("run() of the block backwards", x.run(), 14);
+        due.same("in order", Look.sequential(x), new int[] {8, 12, 16, 20, 24, 28, 4, 4, 4, 4, 4, 4, 0, 0, 0, 0});
+        due.same("backwards", Look.machine(x), new int[] {12, 8, 8, 8, 8, 8, 4, 4, 0, 0, 0, 0, 4, 4, 4, 4});
+        x.schedule();
+        due.is("run() of the block as scheduled", x.run(), 0);
     }
 
     private static void runsStartAfresh(Due due) {
@@ -171,5 +290,23 @@ public final class RunTest {
         expectBoth(due, "r0 no longer written", x, 0, 0);
         expectBoth(due, "m0 no longer written", x, 8, 0);
         expectBoth(due, "r5", x, 5, 5);
+    }
+
+    // 'Instructions, cycles, initial values and latencies are unchanged.'
+    private static void nothingElseChanges(Due due) {
+        for (States.State state : States.ALL) {
+            BlockSchedOpt x = state.make();
+            BlockSchedOpt without = state.make();
+            int answer = x.run();
+            due.same("cycles after run(), " + state.name(),
+                    Look.cycles(x, state.n()), Look.cycles(without, state.n()));
+            due.is("check() after run(), " + state.name(), x.check(), without.check());
+            due.is("run() again, " + state.name(), x.run(), answer);
+            due.is("schedule() after run(), " + state.name(), x.schedule(), without.schedule());
+            due.is("run() as scheduled, " + state.name(), x.run(), without.run());
+            due.same("values as scheduled, " + state.name(), Look.machine(x), Look.machine(without));
+            due.same("initial values after run(), " + state.name(), Look.initial(x), Look.initial(without));
+            due.same("latencies after run(), " + state.name(), Look.latencies(x), Look.latencies(without));
+        }
     }
 }

@@ -22,21 +22,33 @@ public final class ScheduleTest {
         Due due = new Due();
         emptyBlock(due);
         knownBlocks(due);
-        longestBlock(due);
+        shortestLength(due);
+        longestLength(due);
+        narrowUnits(due);
         oldCyclesDoNotMatter(due);
+        whatComesBetweenDoesNotMatter(due);
         nothingElseChanges(due);
+        whatHoldsImmediatelyAfterwards(due);
+        noValidScheduleIsBetter(due);
         hardBlocks(due);
         mixedBlocks(due);
         due.end();
     }
 
+    // 'if n == 0, it answers 0 and changes nothing'
+    // 'With n == 0, check() still answers CHK_EMPTY and run() still answers -1.'
     private static void emptyBlock(Due due) {
-        BlockSchedOpt x = new BlockSchedOpt(4, 4);
-        int[] before = Look.everything(x);
-        due.is("schedule() of an empty block", x.schedule(), 0);
-        due.same("after schedule() of an empty block", Look.everything(x), before);
-        due.is("check() after it", x.check(), BlockSchedOpt.CHK_EMPTY);
-        due.is("run() after it", x.run(), -1);
+        for (States.State state : States.ALL) {
+            BlockSchedOpt x = state.make();
+            BlockSchedOpt without = state.make();
+            x.clear();
+            without.clear();
+            String empty = "() of an empty block, " + state.name();
+            due.is("schedule" + empty, x.schedule(), 0);
+            due.is("check" + empty, x.check(), BlockSchedOpt.CHK_EMPTY);
+            due.is("run" + empty, x.run(), -1);
+            due.same("after schedule" + empty, Look.whole(x), Look.whole(without));
+        }
     }
 
     private static void expect(Due due, String what, BlockSchedOpt x, int length, int... cycles) {
@@ -62,43 +74,159 @@ public final class ScheduleTest {
         expect(due, "slack for the later ones", Look.block(4, 1, 4, 0, 7, 7, 1, 1, 1, 0, 1, 2, 1, 0), 4, 0, 0, 1);
     }
 
-    private static void longestBlock(Due due) {
-        int[] fields = new int[40];
-        int[] cycles = new int[10];
-        for (int i = 0; i < 10; i++) {
-            fields[4 * i] = i % 2 == 0 ? 4 : 5;
-            cycles[i] = 4 * i;
+    // 'answers its length, which is in 1..40': the 1
+    private static void shortestLength(Due due) {
+        for (int op = 1; op <= 6; op++) {
+            expect(due, "one of op " + op + " at latency 1", Look.block(1, 1, op, 0, 1, 2), 1, 0);
         }
-        expect(due, "ten in one chain", Look.block(9, 9, fields), 40, cycles);
+        expect(due, "one LDI at latency 4", Look.block(4, 4, 1, 0, 1, 2), 1, 0);
+        expect(due, "one STORE at latency 4", Look.block(4, 4, 6, 0, 1, 2), 1, 0);
+        expect(due, "one MUL at latency 4", Look.block(4, 3, 4, 0, 1, 2), 4, 0);
+        expect(due, "one LOAD at latency 3", Look.block(4, 3, 5, 0, 1, 2), 3, 0);
+        expect(due, "two LDIs", Look.block(4, 4, 1, 0, 1, 0, 1, 1, 1, 0), 1, 0, 0);
     }
 
+    // 'answers its length, which is in 1..40': the 40, and 'All cycles it sets are in 0..63.'
+    private static void longestLength(Due due) {
+        for (int latency = 1; latency <= 4; latency++) {
+            int[] fields = new int[40];
+            int[] cycles = new int[10];
+            for (int i = 0; i < 10; i++) {
+                fields[4 * i] = i % 2 == 0 ? 4 : 5;
+                cycles[i] = latency * i;
+            }
+            expect(due, "ten in one chain", Look.block(latency, latency, fields), 10 * latency, cycles);
+        }
+        expect(due, "ten in one chain, latencies clamped", tenAlike(9, 9, 4, 0),
+                40, 0, 4, 8, 12, 16, 20, 24, 28, 32, 36);
+    }
+
+    private static BlockSchedOpt tenAlike(int mulLatency, int loadLatency, int op, int register) {
+        BlockSchedOpt x = new BlockSchedOpt(mulLatency, loadLatency);
+        for (int i = 0; i < 10; i++) {
+            x.addInstr(op, 0, register, register);
+        }
+        return x;
+    }
+
+    // Two in a cycle, one memory op in a cycle, one MUL in a cycle, each with as many as there can be.
+    private static void narrowUnits(Due due) {
+        BlockSchedOpt ldis = new BlockSchedOpt(4, 4);
+        BlockSchedOpt stores = new BlockSchedOpt(4, 4);
+        for (int i = 0; i < 10; i++) {
+            ldis.addInstr(1, i % 8, i, 0);
+            stores.addInstr(6, i % 8, 0, i);
+        }
+        expect(due, "ten LDIs", ldis, 5, 0, 0, 1, 1, 2, 2, 3, 3, 4, 4);
+        expect(due, "ten STOREs", stores, 10, 0, 1, 2, 3, 4, 5, 6, 7, 8, 9);
+        expect(due, "ten MULs of one register", tenAlike(1, 1, 4, 7), 10, 0, 1, 2, 3, 4, 5, 6, 7, 8, 9);
+        expect(due, "ten LOADs of one register", tenAlike(1, 4, 5, 7), 13, 0, 1, 2, 3, 4, 5, 6, 7, 8, 9);
+        expect(due, "MULs and LOADs by turns",
+                Look.block(2, 2, 4, 0, 7, 7, 5, 1, 7, 0, 4, 2, 7, 7, 5, 3, 7, 0, 4, 4, 7, 7, 5, 5, 7, 0),
+                4, 0, 0, 1, 1, 2, 2);
+    }
+
+    // 'replacing whatever cycles were set or unset before'
     private static void oldCyclesDoNotMatter(Due due) {
         int[] fields = {1, 1, 5, 0, 5, 2, 0, 0, 4, 3, 1, 2, 2, 4, 1, 1, 6, 3, 0, 1, 3, 1, 4, 2};
         BlockSchedOpt x = Look.block(3, 2, fields);
         int[] best = {0, 0, 2, 1, 5, 2};
         expect(due, "the block when unset", x, 6, best);
         expect(due, "the block once more", x, 6, best);
-        Look.setCycles(x, 63, 0, 5, -1, 5, 5);
-        expect(due, "the block with other cycles", x, 6, best);
-        x.addInstr(9, 9, 9, 9);
-        expect(due, "the block after a refused addInstr", x, 6, best);
+        int[][] before = {{63, 0, 5, -1, 5, 5}, {63, 63, 63, 63, 63, 63}, {-1, -1, -1, -1, -1, -1},
+            {0, 0, 0, 0, 0, 0}, {5, 4, 3, 2, 1, 0}, {-1, 0, 2, 1, 5, 2}};
+        for (int[] cycles : before) {
+            Look.setCycles(x, cycles);
+            expect(due, "the block with other cycles", x, 6, best);
+        }
     }
 
+    // 'calling it again without an intervening successful addInstr or clear() gives the same'
+    private static void whatComesBetweenDoesNotMatter(Due due) {
+        for (States.State state : States.ALL) {
+            BlockSchedOpt x = state.make();
+            int length = x.schedule();
+            int[] cycles = Look.cycles(x, state.n());
+            for (int loc = -1; loc <= 16; loc++) {
+                x.setInit(loc, 31 * loc);
+            }
+            x.run();
+            x.addInstr(0, 0, 0, 0);
+            x.addInstr(1, 8, 0, 0);
+            x.setCycle(0, 63);
+            x.setCycle(state.n() - 1, -1);
+            x.run();
+            x.criticalPath();
+            due.is("schedule() again, " + state.name(), x.schedule(), length);
+            due.same("cycles again, " + state.name(), Look.cycles(x, state.n()), cycles);
+        }
+        // A full block refuses every addInstr.
+        BlockSchedOpt full = tenAlike(4, 4, 4, 0);
+        full.schedule();
+        full.addInstr(1, 0, 0, 0);
+        due.is("schedule() after addInstr to a full block", full.schedule(), 40);
+    }
+
+    // 'Nothing else changes: instructions, initial values, result values and latencies stay as they were.'
     private static void nothingElseChanges(Due due) {
-        BlockSchedOpt x = Look.block(3, 2, 4, 0, 1, 1, 5, 1, 0, 0, 6, 1, 0, 3);
-        x.setInit(1, 6);
-        x.setInit(12, 8);
-        Look.setCycles(x, 0, 0, 0);
-        x.run();
-        int[] sequential = Look.sequential(x);
-        int[] machine = Look.machine(x);
-        x.schedule();
-        due.same("sequential values after schedule()", Look.sequential(x), sequential);
-        due.same("machine values after schedule()", Look.machine(x), machine);
-        due.is("edgeDelay(0, 1) after schedule()", x.edgeDelay(0, 1), 3);
-        x.run();
-        due.same("run() after schedule(), sequential", Look.sequential(x), sequential);
-        due.same("run() after schedule(), machine", Look.machine(x), sequential);
+        for (States.State state : States.ALL) {
+            BlockSchedOpt x = state.make();
+            BlockSchedOpt byHand = state.make();
+            x.schedule();
+            Look.setCycles(byHand, Look.cycles(x, state.n()));
+            due.same("after schedule(), " + state.name(), Look.whole(x), Look.whole(byHand));
+        }
+    }
+
+    // 'immediately afterwards check() answers exactly S, bundleAt(t, 2) is -1 for every t, and run()
+    // answers 0', and 'criticalPath() <= S'
+    private static void whatHoldsImmediatelyAfterwards(Due due) {
+        for (States.State state : States.ALL) {
+            if (state.n() >= 1) {
+                BlockSchedOpt x = state.make();
+                int length = x.schedule();
+                due.is("1..40, " + state.name(), length >= 1 && length <= 40, true);
+                due.is("check() = S, " + state.name(), x.check(), length);
+                for (int t = -1; t <= 64; t++) {
+                    due.is("bundleAt(" + t + ", 2), " + state.name(), x.bundleAt(t, 2), -1);
+                }
+                due.is("criticalPath() <= S, " + state.name(), x.criticalPath() <= length, true);
+                due.is("run(), " + state.name(), x.run(), 0);
+                due.is("check() after run(), " + state.name(), x.check(), length);
+            }
+        }
+    }
+
+    // 'No valid schedule of the same block is shorter', and of those of its length it is the
+    // lexicographically least: all cycles up to one beyond its length, judged by check() alone.
+    private static void noValidScheduleIsBetter(Due due) {
+        Numbers numbers = new Numbers(66);
+        for (int round = 0; round < 150; round++) {
+            BlockSchedOpt x = new BlockSchedOpt(numbers.in(1, 4), numbers.in(1, 4));
+            int n = numbers.in(1, 3);
+            for (int i = 0; i < n; i++) {
+                x.addInstr(numbers.in(1, 6), numbers.in(0, 2), numbers.in(0, 2), numbers.in(0, 2));
+            }
+            int length = x.schedule();
+            int[] cycles = Look.cycles(x, n);
+            int range = length + 1;
+            int best = Integer.MAX_VALUE;
+            int[] bestCycles = {};
+            for (int code = 0; code < Math.pow(range, n); code++) {
+                int rest = code;
+                for (int i = n - 1; i >= 0; i--) {
+                    x.setCycle(i, rest % range);
+                    rest /= range;
+                }
+                int judged = x.check();
+                if (judged > 0 && judged < best) {
+                    best = judged;
+                    bestCycles = Look.cycles(x, n);
+                }
+            }
+            due.is("schedule() in round " + round, length, best);
+            due.same("cycles in round " + round, cycles, bestCycles);
+        }
     }
 
     private static void hardBlocks(Due due) {

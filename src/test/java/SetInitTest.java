@@ -1,72 +1,70 @@
 /** Promise 4: setting an initial value. */
 public final class SetInitTest {
+    private static final int MIN = Integer.MIN_VALUE;
+    private static final int MAX = Integer.MAX_VALUE;
+    private static final int[] VALUES = {MIN, MIN + 1, -1, 0, 1, 77, MAX};
+
     public static void main(String[] args) {
         Due due = new Due();
         everyLocationTakesAnyInt(due);
+        theLastValueCounts(due);
         otherLocationsAreRefused(due);
         theRestIsUnchanged(due);
         due.end();
     }
 
-    // r0 = r0 - r1 leaves all locations as they were while r1 is 0.
-    private static BlockSchedOpt harmless() {
-        return Look.block(1, 1, 3, 0, 0, 1);
-    }
-
+    // 'with loc in 0..15 sets the initial value of location loc to value (any int) and answers true'
     private static void everyLocationTakesAnyInt(Due due) {
-        int[] values = {Integer.MIN_VALUE, -1, 0, 1, 77, Integer.MAX_VALUE};
-        for (int loc = 2; loc <= 15; loc++) {
-            BlockSchedOpt x = harmless();
-            x.setCycle(0, 0);
-            for (int value : values) {
-                due.is("setInit(" + loc + ", " + value + ")", x.setInit(loc, value), true);
-                x.run();
-                int[] want = new int[16];
-                want[loc] = value;
-                due.same("sequential after setInit of " + loc, Look.sequential(x), want);
-                due.same("machine after setInit of " + loc, Look.machine(x), want);
+        for (States.State state : States.ALL) {
+            for (int loc = 0; loc <= 15; loc++) {
+                for (int value : VALUES) {
+                    BlockSchedOpt x = state.make();
+                    int[] want = Look.initial(state.make());
+                    want[loc] = value;
+                    String call = "setInit(" + loc + ", " + value + "), " + state.name();
+                    due.is(call, x.setInit(loc, value), true);
+                    due.same("initial values after " + call, Look.initial(x), want);
+                }
             }
         }
-        BlockSchedOpt x = harmless();
-        x.setCycle(0, 0);
-        due.is("setInit(0, 9)", x.setInit(0, 9), true);
-        due.is("setInit(1, 2)", x.setInit(1, 2), true);
-        x.run();
-        due.is("r0 - r1", x.seqValue(0), 7);
-        x.run();
-        due.is("r0 - r1 once more, from the same initial values", x.machValue(0), 7);
     }
 
+    private static void theLastValueCounts(Due due) {
+        // r0 = r0 - r1
+        BlockSchedOpt x = Look.block(1, 1, 3, 0, 0, 1);
+        x.setCycle(0, 0);
+        for (int value : VALUES) {
+            x.setInit(0, value);
+            x.setInit(1, 2);
+            x.run();
+            due.is("r0 - r1 in order, from " + value, x.seqValue(0), value - 2);
+            x.run();
+            due.is("r0 - r1 once more, from the same initial values", x.machValue(0), value - 2);
+        }
+    }
+
+    // 'With loc outside 0..15 it answers false and changes nothing.'
     private static void otherLocationsAreRefused(Due due) {
-        BlockSchedOpt x = harmless();
-        x.setCycle(0, 0);
-        for (int loc = 0; loc < 16; loc++) {
-            x.setInit(loc, 100 + loc);
+        for (int loc : new int[] {MIN, -16, -1, 16, 17, 24, MAX}) {
+            for (int value : new int[] {MIN, 0, 5, MAX}) {
+                String call = "setInit(" + loc + ", " + value + ")";
+                States.refused(due, call, 0, x -> x.setInit(loc, value) ? 1 : 0);
+            }
         }
-        x.run();
-        int[] before = Look.everything(x);
-        for (int loc : new int[] {Integer.MIN_VALUE, -1, 16, 17, 24, Integer.MAX_VALUE}) {
-            due.is("setInit(" + loc + ", 5)", x.setInit(loc, 5), false);
-        }
-        due.same("after refusals", Look.everything(x), before);
-        x.run();
-        due.same("run() after refusals", Look.everything(x), before);
     }
 
+    // 'Result values are unchanged; they change only by run(). Instructions and cycles are unchanged.'
     private static void theRestIsUnchanged(Due due) {
-        BlockSchedOpt x = Look.block(2, 2, 1, 0, 5, 0, 6, 0, 1, 0);
-        Look.setCycles(x, 4, 63);
-        x.run();
-        int[] before = Look.everything(x);
-        for (int loc = 0; loc < 16; loc++) {
-            x.setInit(loc, -7);
+        for (States.State state : States.ALL) {
+            BlockSchedOpt x = state.make();
+            int[] before = Look.everything(x);
+            for (int loc = 0; loc < 16; loc++) {
+                x.setInit(loc, -7);
+            }
+            due.same("all but initial values after setInit, " + state.name(), Look.everything(x), before);
+            due.is("n after setInit, " + state.name(), x.addInstr(1, 0, 0, 0), state.n() < 10 ? state.n() : -1);
+            due.same("latencies after setInit, " + state.name(),
+                    Look.latencies(x), Look.latencies(state.make()));
         }
-        due.same("all but initial values after setInit", Look.everything(x), before);
-        x.clear();
-        due.is("setInit with an empty block", x.setInit(2, 3), true);
-        Look.add(x, 1, 0, 1, 0);
-        x.schedule();
-        x.run();
-        due.is("r2 set while the block was empty", x.machValue(2), 3);
     }
 }
