@@ -34,9 +34,11 @@ public final class AddInstrTest {
         for (States.State state : States.ALL) {
             if (state.n() == BlockSchedOpt.MAX_INSTR) {
                 for (int op = 1; op <= 6; op++) {
-                    BlockSchedOpt x = state.make();
-                    due.is("addInstr of op " + op + ", " + state.name(), x.addInstr(op, 0, 1, 2), -1);
-                    due.same("after it", Look.whole(x), Look.whole(state.make()));
+                    int right = op;
+                    String call = "addInstr of op " + op + ", " + state.name();
+                    due.is(call, state.make().addInstr(op, 0, 1, 2), -1);
+                    States.alike(due, "after " + call,
+                            States.after(state, x -> x.addInstr(right, 0, 1, 2)), state.made());
                 }
             }
         }
@@ -196,5 +198,15 @@ public final class AddInstrTest {
             due.same("initial after addInstr, " + state.name(), Look.initial(x), Look.initial(without));
             due.same("latencies after addInstr, " + state.name(), Look.latencies(x), Look.latencies(without));
         }
+        BlockSchedOpt x = Look.block(2, 2, 1, 0, 5, 0, 1, 1, 6, 0);
+        x.setInit(4, 44);
+        x.setInit(15, 55);
+        Look.setCycles(x, 7, 63);
+        x.addInstr(1, 2, 7, 0);
+        due.same("cycles after addInstr", Look.cycles(x, 3), new int[] {7, 63, -1});
+        x.setCycle(2, 0);
+        x.run();
+        due.same("values after addInstr", Look.machine(x),
+                new int[] {5, 6, 7, 0, 44, 0, 0, 0, 0, 0, 0, 0, 0, 0, 0, 55});
     }
 }

@@ -15,10 +15,7 @@ public final class ClearTest {
     private static void clearingAnEmptyBlock(Due due) {
         for (States.State state : States.ALL) {
             if (state.n() == 0) {
-                BlockSchedOpt x = state.make();
-                x.clear();
-                x.clear();
-                due.same("after clear(), " + state.name(), Look.whole(x), Look.whole(state.make()));
+                States.alike(due, "after clear(), " + state.name(), States.after(state, x -> x.clear()), state.made());
             }
         }
     }

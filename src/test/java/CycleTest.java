@@ -75,11 +75,10 @@ public final class CycleTest {
             }
         }
         for (States.State state : States.ALL) {
-            for (int i = state.n(); i <= 10; i++) {
-                BlockSchedOpt x = state.make();
-                String call = "setCycle(" + i + ", ..) beyond the block, " + state.name();
-                due.is(call, x.setCycle(i, 0) || x.setCycle(i, -1) || x.setCycle(i, 63), false);
-                due.same("after " + call, Look.whole(x), Look.whole(state.make()));
+            for (int c : new int[] {-1, 0, 63}) {
+                String call = "setCycle(n, " + c + "), " + state.name();
+                due.is(call, state.make().setCycle(state.n(), c), false);
+                States.alike(due, "after " + call, States.after(state, x -> x.setCycle(state.n(), c)), state.made());
             }
         }
     }
@@ -120,21 +119,26 @@ public final class CycleTest {
     // 'Only c(i) changes; other cycles, instructions, initial values and result values are unchanged.'
     private static void onlyOneCycleChanges(Due due) {
         for (States.State state : States.ALL) {
-            int[] whole = Look.whole(state.make());
             for (int i = 0; i < state.n(); i++) {
                 for (int c : new int[] {-1, 0, 5, 63}) {
-                    BlockSchedOpt x = state.make();
-                    String call = "setCycle(" + i + ", " + c + "), " + state.name();
-                    int[] cycles = Look.cycles(x, state.n());
-                    int old = cycles[i];
-                    cycles[i] = c;
-                    x.setCycle(i, c);
-                    due.same("cycles after " + call, Look.cycles(x, state.n()), cycles);
-                    x.setCycle(i, old);
-                    due.same("after " + call + " and back", Look.whole(x), whole);
+                    setOneAndBack(due, state, i, c);
                 }
             }
         }
+    }
+
+    private static void setOneAndBack(Due due, States.State state, int i, int c) {
+        String call = "setCycle(" + i + ", " + c + "), " + state.name();
+        BlockSchedOpt x = state.make();
+        int[] cycles = Look.cycles(x, state.n());
+        int old = cycles[i];
+        cycles[i] = c;
+        x.setCycle(i, c);
+        due.same("cycles after " + call, Look.cycles(x, state.n()), cycles);
+        States.alike(due, "after " + call + " and back", States.after(state, y -> {
+            y.setCycle(i, c);
+            y.setCycle(i, old);
+        }), state.made());
     }
 
     // 'cycleOf(i) answers c(i) for i in 0..n-1 (-1 if unset)'

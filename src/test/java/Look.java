@@ -40,25 +40,61 @@ final class Look {
     /** All that can be read without changing anything, and beyond every edge. */
     static int[] everything(BlockSchedOpt x) {
         IntStream.Builder seen = IntStream.builder();
+        readCycles(x, seen);
+        readValues(x, seen);
+        readBundles(x, seen);
+        readJudgements(x, seen);
+        readEdges(x, seen);
+        return seen.build().toArray();
+    }
+
+    /**
+     * The same the other way round: what a reading call changes by mistake shows only in what is
+     * read before that call is used for reading.
+     */
+    static int[] everythingBackwards(BlockSchedOpt x) {
+        IntStream.Builder seen = IntStream.builder();
+        readEdges(x, seen);
+        readJudgements(x, seen);
+        readBundles(x, seen);
+        readValues(x, seen);
+        readCycles(x, seen);
+        return seen.build().toArray();
+    }
+
+    private static void readCycles(BlockSchedOpt x, IntStream.Builder seen) {
         for (int i = -2; i <= 11; i++) {
             seen.add(x.cycleOf(i));
-            for (int j = -2; j <= 11; j++) {
-                seen.add(x.edgeKinds(i, j));
-                seen.add(x.edgeDelay(i, j));
-            }
         }
+    }
+
+    private static void readValues(BlockSchedOpt x, IntStream.Builder seen) {
         for (int loc = -1; loc <= 16; loc++) {
             seen.add(x.seqValue(loc));
             seen.add(x.machValue(loc));
         }
+    }
+
+    private static void readBundles(BlockSchedOpt x, IntStream.Builder seen) {
         for (int t = -2; t <= 65; t++) {
             for (int slot = -1; slot <= 10; slot++) {
                 seen.add(x.bundleAt(t, slot));
             }
         }
+    }
+
+    private static void readJudgements(BlockSchedOpt x, IntStream.Builder seen) {
         seen.add(x.check());
         seen.add(x.criticalPath());
-        return seen.build().toArray();
+    }
+
+    private static void readEdges(BlockSchedOpt x, IntStream.Builder seen) {
+        for (int i = -2; i <= 11; i++) {
+            for (int j = -2; j <= 11; j++) {
+                seen.add(x.edgeKinds(i, j));
+                seen.add(x.edgeDelay(i, j));
+            }
+        }
     }
 
     /** The 16 initial values; uses the object up, as they show only in runs of another block. */
@@ -86,6 +122,17 @@ final class Look {
         x.clear();
         add(x, 5, 0, 0, 0);
         return new int[] {mulLatency, x.criticalPath()};
+    }
+
+    /** What a run leaves, with no other call before it where the cycles are set; changes the object. */
+    static int[] ranAtOnce(BlockSchedOpt x) {
+        int answer = x.run();
+        if (answer == -1) {
+            setCycles(x, 9, 8, 7, 6, 5, 4, 3, 2, 1, 0);
+            answer = x.run();
+        }
+        IntStream values = IntStream.concat(Arrays.stream(sequential(x)), Arrays.stream(machine(x)));
+        return IntStream.concat(IntStream.of(answer), values).toArray();
     }
 
     /** All there is to know of the object, its instructions and initial values too; uses it up. */

@@ -48,7 +48,8 @@ public final class RunTest {
             if (state.n() == 0 || unset) {
                 due.is("run(), " + state.name(), x.run(), -1);
                 due.is("run() again, " + state.name(), x.run(), -1);
-                due.same("after a refused run(), " + state.name(), Look.whole(x), Look.whole(state.make()));
+                States.alike(due, "after a refused run(), " + state.name(),
+                        States.after(state, y -> y.run()), state.made());
             } else {
                 int differing = x.run();
                 due.is("run() in 0..16, " + state.name(), differing >= 0 && differing <= 16, true);

@@ -40,14 +40,15 @@ public final class ScheduleTest {
     private static void emptyBlock(Due due) {
         for (States.State state : States.ALL) {
             BlockSchedOpt x = state.make();
-            BlockSchedOpt without = state.make();
             x.clear();
-            without.clear();
             String empty = "() of an empty block, " + state.name();
             due.is("schedule" + empty, x.schedule(), 0);
             due.is("check" + empty, x.check(), BlockSchedOpt.CHK_EMPTY);
             due.is("run" + empty, x.run(), -1);
-            due.same("after schedule" + empty, Look.whole(x), Look.whole(without));
+            States.alike(due, "after schedule" + empty, States.after(state, y -> {
+                y.clear();
+                y.schedule();
+            }), States.after(state, y -> y.clear()));
         }
     }
 
@@ -171,10 +172,10 @@ public final class ScheduleTest {
     private static void nothingElseChanges(Due due) {
         for (States.State state : States.ALL) {
             BlockSchedOpt x = state.make();
-            BlockSchedOpt byHand = state.make();
             x.schedule();
-            Look.setCycles(byHand, Look.cycles(x, state.n()));
-            due.same("after schedule(), " + state.name(), Look.whole(x), Look.whole(byHand));
+            int[] cycles = Look.cycles(x, state.n());
+            States.alike(due, "after schedule(), " + state.name(),
+                    States.after(state, y -> y.schedule()), States.after(state, y -> Look.setCycles(y, cycles)));
         }
     }
 

@@ -1,4 +1,6 @@
 import java.util.List;
+import java.util.function.Consumer;
+import java.util.function.Function;
 import java.util.function.Supplier;
 import java.util.function.ToIntFunction;
 
@@ -24,6 +26,9 @@ final class States {
             new State("full, all in one cycle", 10, () -> set(many(10), 5, 5, 5, 5, 5, 5, 5, 5, 5, 5)),
             new State("cleared after a run", 0, () -> cleared()));
 
+    private static final List<Function<BlockSchedOpt, int[]>> READINGS =
+            List.of(Look::whole, Look::everythingBackwards, Look::initial, Look::ranAtOnce);
+
     private static final int[] MANY = {
         1, 0, -6, 3, 4, 1, 0, 7, 5, 2, 6, -3, 2, 3, 1, 2, 6, 3, 0, 12, 3, 4, 6, 7, 5, 5, 7, 1,
         4, 6, 4, 5, 6, 6, 7, 1, 2, 7, 0, 5};
@@ -31,15 +36,30 @@ final class States {
     private States() {
     }
 
+    /** The object of the state after some calls, made anew each time. */
+    static Supplier<BlockSchedOpt> after(State state, Consumer<BlockSchedOpt> calls) {
+        return () -> {
+            BlockSchedOpt x = state.make();
+            calls.accept(x);
+            return x;
+        };
+    }
+
     /**
-     * In each state the call gives the answer that is due and leaves all there is to know as it
-     * is without the call.
+     * Both are the same, as far as calls can tell. They are read in several ways, since a reading
+     * that itself uses a faulty call spoils both in the same way.
      */
+    static void alike(Due due, String what, Supplier<BlockSchedOpt> one, Supplier<BlockSchedOpt> other) {
+        for (Function<BlockSchedOpt, int[]> reading : READINGS) {
+            due.same(what, reading.apply(one.get()), reading.apply(other.get()));
+        }
+    }
+
+    /** In each state the call gives the answer that is due and leaves all as it is without it. */
     static void unchanged(Due due, String call, ToIntFunction<State> want, ToIntFunction<BlockSchedOpt> act) {
         for (State state : ALL) {
-            BlockSchedOpt x = state.make();
-            due.is(call + ", " + state.name, act.applyAsInt(x), want.applyAsInt(state));
-            due.same("after " + call + ", " + state.name, Look.whole(x), Look.whole(state.make()));
+            due.is(call + ", " + state.name, act.applyAsInt(state.make()), want.applyAsInt(state));
+            alike(due, "after " + call + ", " + state.name, after(state, act::applyAsInt), state.made);
         }
     }
 
