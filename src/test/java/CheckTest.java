@@ -7,7 +7,9 @@ public final class CheckTest {
         eachAnswer(due);
         theFirstConditionWins(due);
         everyTwoConditionsAtOnce(due);
-        widthInEveryCycle(due);
+        moreThanTwo(due);
+        moreThanOneMemoryOp(due);
+        moreThanOneMul(due);
         delaysToTheCycle(due);
         lengthCountsLatency(due);
         nothingChanges(due);
@@ -97,19 +99,17 @@ public final class CheckTest {
         }
     }
 
-    // '4. some cycle holds more than 2 instructions', '5. .. more than one memory op', '6. .. more than one MUL'
-    private static void widthInEveryCycle(Due due) {
+    // A cycle beside c.
+    private static int beside(int c) {
+        return c == 0 ? 1 : c - 1;
+    }
+
+    // '4. some cycle holds more than 2 instructions: CHK_WIDTH (-4)'
+    private static void moreThanTwo(Due due) {
         for (int c = 0; c <= 63; c++) {
             BlockSchedOpt ldis = Look.block(1, 1, 1, 0, 1, 0, 1, 1, 1, 0, 1, 2, 1, 0);
             expect(due, "three at " + c, BlockSchedOpt.CHK_WIDTH, ldis, c, c, c);
-            int other = c == 0 ? 1 : c - 1;
-            expect(due, "two at " + c, Math.max(c, other) + 1, ldis, c, other, c);
-            BlockSchedOpt loads = Look.block(1, 1, 5, 0, 7, 0, 5, 1, 7, 0);
-            expect(due, "two LOADs at " + c, BlockSchedOpt.CHK_MEM, loads, c, c);
-            expect(due, "one LOAD at " + c, Math.max(c, other) + 1, loads, c, other);
-            BlockSchedOpt muls = Look.block(1, 1, 4, 0, 7, 7, 4, 1, 7, 7);
-            expect(due, "two MULs at " + c, BlockSchedOpt.CHK_MUL, muls, c, c);
-            expect(due, "one MUL at " + c, Math.max(c, other) + 1, muls, c, other);
+            expect(due, "two at " + c, Math.max(c, beside(c)) + 1, ldis, c, beside(c), c);
         }
         BlockSchedOpt x = new BlockSchedOpt(1, 1);
         for (int i = 0; i < 8; i++) {
@@ -119,6 +119,24 @@ public final class CheckTest {
         due.is("check() of eight at 63", x.check(), BlockSchedOpt.CHK_WIDTH);
         Look.setCycles(x, 0, 63, 1, 62, 0, 63, 1, 62);
         due.is("check() of eight in pairs", x.check(), 64);
+    }
+
+    // '5. some cycle holds more than one memory op: CHK_MEM (-5)'
+    private static void moreThanOneMemoryOp(Due due) {
+        for (int c = 0; c <= 63; c++) {
+            BlockSchedOpt loads = Look.block(1, 1, 5, 0, 7, 0, 5, 1, 7, 0);
+            expect(due, "two LOADs at " + c, BlockSchedOpt.CHK_MEM, loads, c, c);
+            expect(due, "one LOAD at " + c, Math.max(c, beside(c)) + 1, loads, c, beside(c));
+        }
+    }
+
+    // '6. some cycle holds more than one MUL: CHK_MUL (-6)'
+    private static void moreThanOneMul(Due due) {
+        for (int c = 0; c <= 63; c++) {
+            BlockSchedOpt muls = Look.block(1, 1, 4, 0, 7, 7, 4, 1, 7, 7);
+            expect(due, "two MULs at " + c, BlockSchedOpt.CHK_MUL, muls, c, c);
+            expect(due, "one MUL at " + c, Math.max(c, beside(c)) + 1, muls, c, beside(c));
+        }
     }
 
     // '3. some edge i->j has c(j) < c(i) + delay(i,j): CHK_DEP (-3)'

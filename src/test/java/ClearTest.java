@@ -6,7 +6,8 @@ public final class ClearTest {
         clearingSucceedsInEveryState(due);
         cyclesAreGone(due);
         resultValuesStay(due);
-        initialValuesAndLatenciesStay(due);
+        initialValuesStay(due);
+        latenciesStay(due);
         numbersStartFromZeroAgain(due);
         due.end();
     }
@@ -57,7 +58,7 @@ public final class ClearTest {
         }
     }
 
-    // 'Initial values and result values are unchanged'
+    // 'Initial values and result values are unchanged': the result values
     private static void resultValuesStay(Due due) {
         for (States.State state : States.ALL) {
             BlockSchedOpt x = state.make();
@@ -75,8 +76,8 @@ public final class ClearTest {
         due.is("a machine value after clear()", x.machValue(1), 10);
     }
 
-    // 'the latencies are unchanged'
-    private static void initialValuesAndLatenciesStay(Due due) {
+    // 'Initial values and result values are unchanged': the initial values
+    private static void initialValuesStay(Due due) {
         BlockSchedOpt x = new BlockSchedOpt(3, 4);
         int[] want = new int[16];
         for (int loc = 0; loc < 16; loc++) {
@@ -86,8 +87,16 @@ public final class ClearTest {
         Look.add(x, 1, 0, 5, 0, 2, 1, 0, 6);
         x.clear();
         due.same("initial values after clear()", Look.initial(x), want);
-        x.clear();
-        due.same("latencies after clear()", Look.latencies(x), new int[] {3, 4});
+    }
+
+    // 'the latencies are unchanged'
+    private static void latenciesStay(Due due) {
+        for (int latency = 1; latency <= 4; latency++) {
+            BlockSchedOpt x = Look.block(latency, 5 - latency, 1, 0, 5, 0);
+            x.clear();
+            x.clear();
+            due.same("latencies after clear()", Look.latencies(x), new int[] {latency, 5 - latency});
+        }
     }
 
     // 'Afterwards instructions may be added again starting from number 0.'

@@ -1,5 +1,7 @@
 /** Promise 10: dependence edges of a pair. */
 public final class EdgeTest {
+    private static final int[] INDICES = {Integer.MIN_VALUE, -1, 0, 1, 2, 3, 9, 10, 11, Integer.MAX_VALUE};
+
     public static void main(String[] args) {
         Due due = new Due();
         eachKind(due);
@@ -7,7 +9,8 @@ public final class EdgeTest {
         fieldsThatAreNoRegisters(due);
         outputDelays(due);
         severalKinds(due);
-        noPair(due);
+        noKindsWithoutAPair(due);
+        noDelayWithoutAnEdge(due);
         noPairInAnyState(due);
         pairsUpToTheLast(due);
         cyclesAndValuesDoNotMatter(due);
@@ -96,20 +99,34 @@ public final class EdgeTest {
     }
 
     // 'It answers 0 unless 0 <= i < j < n; in particular 0 for i >= j, for negative indices and for
-    // indices at or beyond n', and edgeDelay 'otherwise -1'
-    private static void noPair(Due due) {
-        BlockSchedOpt x = new BlockSchedOpt(2, 2);
-        due.is("edgeKinds(0, 1) while empty", x.edgeKinds(0, 1), 0);
-        due.is("edgeDelay(0, 1) while empty", x.edgeDelay(0, 1), -1);
-        Look.add(x, 2, 0, 0, 0, 2, 0, 0, 0, 2, 0, 0, 0);
-        int[] indices = {Integer.MIN_VALUE, -1, 0, 1, 2, 3, 9, 10, 11, Integer.MAX_VALUE};
-        for (int i : indices) {
-            for (int j : indices) {
+    // indices at or beyond n.'
+    private static void noKindsWithoutAPair(Due due) {
+        due.is("edgeKinds(0, 1) while empty", new BlockSchedOpt(2, 2).edgeKinds(0, 1), 0);
+        BlockSchedOpt x = Look.block(2, 2, 2, 0, 0, 0, 2, 0, 0, 0, 2, 0, 0, 0);
+        for (int i : INDICES) {
+            for (int j : INDICES) {
                 boolean pair = i >= 0 && i < j && j < 3;
                 due.is("edgeKinds(" + i + ", " + j + ")", x.edgeKinds(i, j), pair ? 7 : 0);
-                due.is("edgeDelay(" + i + ", " + j + ")", x.edgeDelay(i, j), pair ? 1 : -1);
             }
         }
+    }
+
+    // 'edgeDelay(i, j) answers delay(i,j) if 0 <= i < j < n and the pair has an edge (edgeKinds(i, j) !=
+    // 0); otherwise -1.'
+    private static void noDelayWithoutAnEdge(Due due) {
+        due.is("edgeDelay(0, 1) while empty", new BlockSchedOpt(2, 2).edgeDelay(0, 1), -1);
+        BlockSchedOpt x = Look.block(2, 2, 2, 0, 0, 0, 2, 0, 0, 0, 2, 0, 0, 0);
+        // Each alone: the pairs are there, the edges are not.
+        BlockSchedOpt apart = Look.block(2, 2, 1, 0, 0, 0, 1, 1, 0, 0, 1, 2, 0, 0);
+        for (int i : INDICES) {
+            for (int j : INDICES) {
+                boolean pair = i >= 0 && i < j && j < 3;
+                due.is("edgeDelay(" + i + ", " + j + ")", x.edgeDelay(i, j), pair ? 1 : -1);
+                due.is("edgeDelay(" + i + ", " + j + ") without an edge", apart.edgeDelay(i, j), -1);
+            }
+        }
+        BlockSchedOpt anti = Look.block(2, 2, 2, 0, 1, 1, 1, 1, 0, 0);
+        due.is("edgeDelay of an edge that asks no distance", anti.edgeDelay(0, 1), 0);
     }
 
     private static void noPairInAnyState(Due due) {

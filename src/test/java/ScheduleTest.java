@@ -21,14 +21,19 @@ public final class ScheduleTest {
     public static void main(String[] args) {
         Due due = new Due();
         emptyBlock(due);
+        judgedAndRunWhileEmpty(due);
         knownBlocks(due);
         shortestLength(due);
         longestLength(due);
+        cyclesLieInRange(due);
         narrowUnits(due);
         oldCyclesDoNotMatter(due);
         whatComesBetweenDoesNotMatter(due);
         nothingElseChanges(due);
-        whatHoldsImmediatelyAfterwards(due);
+        checkAnswersTheLength(due);
+        noThirdSlotIsFilled(due);
+        runFindsNoDifference(due);
+        criticalPathIsNoLonger(due);
         noValidScheduleIsBetter(due);
         hardBlocks(due);
         mixedBlocks(due);
@@ -36,19 +41,27 @@ public final class ScheduleTest {
     }
 
     // 'if n == 0, it answers 0 and changes nothing'
-    // 'With n == 0, check() still answers CHK_EMPTY and run() still answers -1.'
     private static void emptyBlock(Due due) {
         for (States.State state : States.ALL) {
+            String empty = "schedule() of an empty block, " + state.name();
             BlockSchedOpt x = state.make();
             x.clear();
-            String empty = "() of an empty block, " + state.name();
-            due.is("schedule" + empty, x.schedule(), 0);
-            due.is("check" + empty, x.check(), BlockSchedOpt.CHK_EMPTY);
-            due.is("run" + empty, x.run(), -1);
-            States.alike(due, "after schedule" + empty, States.after(state, y -> {
+            due.is(empty, x.schedule(), 0);
+            States.alike(due, "after " + empty, States.after(state, y -> {
                 y.clear();
                 y.schedule();
             }), States.after(state, y -> y.clear()));
+        }
+    }
+
+    // 'With n == 0, check() still answers CHK_EMPTY and run() still answers -1.'
+    private static void judgedAndRunWhileEmpty(Due due) {
+        for (States.State state : States.ALL) {
+            BlockSchedOpt x = state.make();
+            x.clear();
+            x.schedule();
+            due.is("check() after schedule() while empty, " + state.name(), x.check(), BlockSchedOpt.CHK_EMPTY);
+            due.is("run() after schedule() while empty, " + state.name(), x.run(), -1);
         }
     }
 
@@ -87,7 +100,7 @@ public final class ScheduleTest {
         expect(due, "two LDIs", Look.block(4, 4, 1, 0, 1, 0, 1, 1, 1, 0), 1, 0, 0);
     }
 
-    // 'answers its length, which is in 1..40': the 40, and 'All cycles it sets are in 0..63.'
+    // 'answers its length, which is in 1..40': the 40
     private static void longestLength(Due due) {
         for (int latency = 1; latency <= 4; latency++) {
             int[] fields = new int[40];
@@ -100,6 +113,17 @@ public final class ScheduleTest {
         }
         expect(due, "ten in one chain, latencies clamped", tenAlike(9, 9, 4, 0),
                 40, 0, 4, 8, 12, 16, 20, 24, 28, 32, 36);
+    }
+
+    // 'All cycles it sets are in 0..63.'
+    private static void cyclesLieInRange(Due due) {
+        for (States.State state : States.ALL) {
+            BlockSchedOpt x = state.make();
+            x.schedule();
+            for (int i = 0; i < state.n(); i++) {
+                due.is("cycleOf(" + i + ") in 0..63, " + state.name(), x.cycleOf(i) >= 0 && x.cycleOf(i) <= 63, true);
+            }
+        }
     }
 
     private static BlockSchedOpt tenAlike(int mulLatency, int loadLatency, int op, int register) {
@@ -179,23 +203,54 @@ public final class ScheduleTest {
         }
     }
 
-    // 'immediately afterwards check() answers exactly S, bundleAt(t, 2) is -1 for every t, and run()
-    // answers 0', and 'criticalPath() <= S'
-    private static void whatHoldsImmediatelyAfterwards(Due due) {
+    // 'If n >= 1, immediately afterwards check() answers exactly S'
+    private static void checkAnswersTheLength(Due due) {
         for (States.State state : States.ALL) {
             if (state.n() >= 1) {
                 BlockSchedOpt x = state.make();
                 int length = x.schedule();
                 due.is("1..40, " + state.name(), length >= 1 && length <= 40, true);
                 due.is("check() = S, " + state.name(), x.check(), length);
-                for (int t = -1; t <= 64; t++) {
-                    due.is("bundleAt(" + t + ", 2), " + state.name(), x.bundleAt(t, 2), -1);
-                }
-                due.is("criticalPath() <= S, " + state.name(), x.criticalPath() <= length, true);
-                due.is("run(), " + state.name(), x.run(), 0);
-                due.is("check() after run(), " + state.name(), x.check(), length);
             }
         }
+    }
+
+    // 'bundleAt(t, 2) is -1 for every t'
+    private static void noThirdSlotIsFilled(Due due) {
+        for (States.State state : States.ALL) {
+            BlockSchedOpt x = state.make();
+            x.schedule();
+            for (int t = -1; t <= 64; t++) {
+                due.is("bundleAt(" + t + ", 2), " + state.name(), x.bundleAt(t, 2), -1);
+            }
+        }
+    }
+
+    // 'and run() answers 0'
+    private static void runFindsNoDifference(Due due) {
+        for (States.State state : States.ALL) {
+            if (state.n() >= 1) {
+                BlockSchedOpt x = state.make();
+                x.schedule();
+                due.is("run() of the schedule, " + state.name(), x.run(), 0);
+                due.same("its values, " + state.name(), Look.machine(x), Look.sequential(x));
+            }
+        }
+    }
+
+    // 'The answer S satisfies criticalPath() <= S.'
+    private static void criticalPathIsNoLonger(Due due) {
+        for (States.State state : States.ALL) {
+            BlockSchedOpt x = state.make();
+            due.is("criticalPath() <= S, " + state.name(), x.criticalPath() <= x.schedule(), true);
+        }
+        // Both sides of it: a block that is as short as its chain, and one that the width holds up.
+        BlockSchedOpt chain = Look.block(4, 4, 4, 0, 0, 0, 4, 0, 0, 0);
+        due.is("criticalPath() of a chain", chain.criticalPath(), 8);
+        due.is("schedule() of a chain", chain.schedule(), 8);
+        BlockSchedOpt wide = Look.block(4, 4, 1, 0, 0, 0, 1, 1, 0, 0, 1, 2, 0, 0);
+        due.is("criticalPath() of three LDIs", wide.criticalPath(), 1);
+        due.is("schedule() of three LDIs", wide.schedule(), 2);
     }
 
     // 'No valid schedule of the same block is shorter', and of those of its length it is the
