@@ -78,7 +78,8 @@ public final class AddInstrTest {
         }
     }
 
-    // 'the first that holds refuses the call with -1 and changes nothing'
+    // 'addInstr(op, d, a, b) examines these conditions in order; the first that holds refuses the call with
+    // -1 and changes nothing'
     private static void severalConditionsAtOnce(Due due) {
         refuse(due, 0, 8, 8, 8);
         refuse(due, 7, -1, 0, 0);

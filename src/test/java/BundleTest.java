@@ -29,7 +29,8 @@ public final class BundleTest {
         }
     }
 
-    // 'among the instructions with c(i) == cycle, in ascending index, the one at position slot'
+    // 'bundleAt(cycle, slot) answers the index of the instruction in issue slot slot of bundle cycle: among the
+    // instructions with c(i) == cycle, in ascending index, the one at position slot (first is 0).'
     private static void ascendingIndex(Due due) {
         BlockSchedOpt x = ten();
         Look.setCycles(x, 63, 0, 5, 0, 5, 63, 5, 5, 1, 0);

@@ -188,7 +188,9 @@ public final class CheckTest {
         States.unchanged(due, "check()", state -> state.make().check(), block -> block.check());
     }
 
-    // 'Whenever check() would answer a positive L, run() answers 0 and afterwards seqValue(x) == machValue(x)'
+    // 'Whenever check() would answer a positive L, run() answers 0 and afterwards seqValue(x) == machValue(x)
+    // for every x in 0..15: a valid schedule executed on the interlock-free machine leaves the same registers
+    // and memory as sequential execution.'
     private static void validSchedulesRunAsInOrder(Due due) {
         Numbers numbers = new Numbers(7);
         int valid = 0;

@@ -15,7 +15,8 @@ public final class ConstructionTest {
         due.end();
     }
 
-    // 'a value below 1 becomes 1, a value above 4 becomes 4, a value in 1..4 is kept'
+    // 'BlockSchedOpt(int mulLatency, int loadLatency) accepts any ints. mulLatency and loadLatency are each
+    // clamped into 1..4: a value below 1 becomes 1, a value above 4 becomes 4, a value in 1..4 is kept'
     private static void latenciesAreClamped(Due due) {
         for (int m = 0; m < GIVEN.length; m++) {
             for (int l = 0; l < GIVEN.length; l++) {

@@ -6,6 +6,7 @@ public final class CriticalPathTest {
         chainOfOne(due);
         knownBlocks(due);
         longestChain(due);
+        everyChain(due);
         nothingMatters(due);
         mixedBlocks(due);
         due.end();
@@ -78,6 +79,44 @@ public final class CriticalPathTest {
         expect(due, "an output edge", 4, 4, 0, 1, 1, 1, 0, 5, 0);
         // The chain need not go through neighbours, nor start with the first or end with the last.
         expect(due, "a chain in the middle", 7, 1, 0, 0, 0, 4, 1, 7, 7, 1, 2, 0, 0, 5, 3, 1, 0, 1, 4, 0, 0);
+    }
+
+    // 'Otherwise it answers the greatest, over every chain i1 < i2 < .. < ik (k >= 1) where each consecutive
+    // pair has an edge, of the sum of the delays along the chain plus lat(ik).'
+    private static void everyChain(Due due) {
+        Numbers numbers = new Numbers(111);
+        for (int round = 0; round < 400; round++) {
+            int[] latency = {0, 1, 1, 1, numbers.in(1, 4), numbers.in(1, 4), 1};
+            BlockSchedOpt x = new BlockSchedOpt(latency[4], latency[5]);
+            int n = numbers.in(1, 10);
+            int[] ends = new int[n];
+            for (int i = 0; i < n; i++) {
+                int op = numbers.in(1, 6);
+                ends[i] = latency[op];
+                x.addInstr(op, numbers.in(0, 7), numbers.in(0, 7), numbers.in(0, 7));
+            }
+            int greatest = 0;
+            for (int members = 1; members < 1 << n; members++) {
+                greatest = Math.max(greatest, lengthOfChain(x, members, ends));
+            }
+            due.is("criticalPath() over every chain, round " + round, x.criticalPath(), greatest);
+        }
+    }
+
+    /** The delays and the last latency of the instructions whose bits are set; 0 if that is no chain. */
+    private static int lengthOfChain(BlockSchedOpt x, int members, int[] ends) {
+        int length = 0;
+        int last = -1;
+        for (int i = 0; i < ends.length; i++) {
+            if ((members >> i & 1) != 0) {
+                if (last >= 0 && x.edgeKinds(last, i) == 0) {
+                    return 0;
+                }
+                length += last < 0 ? 0 : x.edgeDelay(last, i);
+                last = i;
+            }
+        }
+        return length + ends[last];
     }
 
     // 'It depends only on the instructions and the latencies, not on cycles, and changes nothing.'

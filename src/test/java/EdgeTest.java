@@ -4,11 +4,15 @@ public final class EdgeTest {
 
     public static void main(String[] args) {
         Due due = new Due();
-        eachKind(due);
+        trueKind(due);
+        antiKind(due);
+        outputKind(due);
         memoryKinds(due);
         fieldsThatAreNoRegisters(due);
+        trueAndAntiDelays(due);
         outputDelays(due);
         severalKinds(due);
+        everySetOfKinds(due);
         noKindsWithoutAPair(due);
         noDelayWithoutAnEdge(due);
         noPairInAnyState(due);
@@ -26,7 +30,8 @@ public final class EdgeTest {
         due.is("edgeDelay back of " + what, x.edgeDelay(1, 0), -1);
     }
 
-    private static void eachKind(Due due) {
+    // 'j reads a register that i writes, or i is STORE and j is LOAD. Required distance: lat(i).'
+    private static void trueKind(Due due) {
         expect(due, "nothing shared", 0, -1, 2, 0, 1, 2, 2, 3, 1, 2);
         expect(due, "ADD read as a", 1, 1, 2, 0, 1, 1, 2, 3, 0, 2);
         expect(due, "LDI read as b", 1, 1, 1, 0, 1, 1, 3, 3, 2, 0);
@@ -34,12 +39,27 @@ public final class EdgeTest {
         expect(due, "LOAD read as an address", 1, 4, 5, 0, 1, 1, 5, 3, 0, 0);
         expect(due, "LOAD stored", 3, 4, 5, 0, 1, 1, 6, 0, 2, 0);
         expect(due, "SUB stored at", 1, 1, 3, 0, 1, 1, 6, 2, 0, 0);
+        expect(due, "STORE before a LOAD", 1, 1, 6, 0, 7, 0, 5, 1, 7, 0);
+    }
+
+    // 'j writes a register that i reads, or i is LOAD and j is STORE. Required distance: 0.'
+    private static void antiKind(Due due) {
         expect(due, "a overwritten", 2, 0, 2, 0, 1, 2, 1, 1, 0, 0);
         expect(due, "b overwritten", 2, 0, 4, 0, 1, 2, 5, 2, 3, 0);
         expect(due, "stored value overwritten", 2, 0, 6, 4, 1, 0, 1, 4, 0, 0);
         expect(due, "stored address overwritten", 2, 0, 6, 4, 1, 0, 1, 1, 0, 0);
         expect(due, "loaded address overwritten", 2, 0, 5, 4, 1, 0, 2, 1, 0, 0);
+        expect(due, "LOAD before a STORE", 2, 0, 5, 0, 7, 0, 6, 1, 7, 0);
+    }
+
+    // 'i and j write the same register, or both are STORE. Required distance: max(1, lat(i) - lat(j) +
+    // 1).'
+    private static void outputKind(Due due) {
         expect(due, "two LDIs of one register", 4, 1, 1, 4, 1, 0, 1, 4, 1, 0);
+        expect(due, "MUL before an LDI", 4, 3, 4, 4, 1, 1, 1, 4, 1, 0);
+        expect(due, "LDI before a MUL", 4, 1, 1, 4, 1, 0, 4, 4, 1, 1);
+        expect(due, "LOAD before a MUL", 4, 2, 5, 4, 1, 0, 4, 4, 1, 1);
+        expect(due, "STORE before a STORE", 4, 1, 6, 0, 7, 0, 6, 1, 7, 0);
     }
 
     private static void memoryKinds(Due due) {
@@ -68,7 +88,28 @@ public final class EdgeTest {
         }
     }
 
-    // 'EDGE_OUTPUT .. Required distance: max(1, lat(i) - lat(j) + 1)'
+    // 'Required distance: lat(i).', 'Required distance: 0.'
+    private static void trueAndAntiDelays(Due due) {
+        for (int code = 0; code < 16; code++) {
+            int mulLatency = 1 + code / 4;
+            int loadLatency = 1 + code % 4;
+            int[] latency = {0, 1, 1, 1, mulLatency, loadLatency, 1};
+            for (int op = 1; op <= 6; op++) {
+                String at = " of op " + op + " at latencies " + mulLatency + ", " + loadLatency;
+                // Register 0 is what it writes, register 1 what it reads; a LOAD reads what a STORE wrote.
+                BlockSchedOpt reader = Look.block(mulLatency, loadLatency, op, 0, 1, 1, op == 6 ? 5 : 2, 2, 0, 0);
+                due.is("true delay" + at, reader.edgeDelay(0, 1), latency[op]);
+                for (int second = 1; second <= 5; second++) {
+                    BlockSchedOpt writer = Look.block(mulLatency, loadLatency, op, 0, 1, 1, second, 1, 7, 7);
+                    boolean storeAndLoad = op == 6 && second == 5;
+                    due.is("anti delay before op " + second + at, writer.edgeDelay(0, 1),
+                            op == 1 ? -1 : storeAndLoad ? 1 : 0);
+                }
+            }
+        }
+    }
+
+    // 'Required distance: max(1, lat(i) - lat(j) + 1).'
     private static void outputDelays(Due due) {
         int[] latency = {0, 1, 1, 1, 3, 4};
         for (int mulLatency = 1; mulLatency <= 4; mulLatency++) {
@@ -91,11 +132,23 @@ public final class EdgeTest {
         }
     }
 
+    // 'A pair may carry several kinds.', 'the sum of EDGE_TRUE, EDGE_ANTI, EDGE_OUTPUT over the kinds present
+    // (0..7)'
     private static void severalKinds(Due due) {
         expect(due, "all three", 7, 3, 4, 0, 0, 0, 4, 0, 0, 0);
         expect(due, "true and output", 5, 4, 5, 0, 1, 0, 2, 0, 0, 0);
         expect(due, "anti and output", 6, 4, 5, 0, 0, 0, 1, 0, 0, 0);
         expect(due, "true and anti", 3, 3, 4, 0, 1, 1, 2, 1, 0, 0);
+    }
+
+    // 'edgeKinds(i, j) answers the bit set of the dependence kinds of pair (i, j)': all eight sets occur
+    private static void everySetOfKinds(Due due) {
+        int[][] pairs = {{2, 0, 1, 1, 2, 2, 3, 3}, {2, 0, 1, 1, 2, 2, 0, 3}, {2, 0, 1, 1, 2, 1, 3, 3},
+            {2, 0, 1, 1, 2, 1, 0, 3}, {2, 0, 1, 1, 2, 0, 3, 3}, {2, 0, 1, 1, 2, 0, 0, 3}, {2, 0, 0, 1, 2, 0, 3, 3},
+            {2, 0, 0, 1, 2, 0, 0, 3}};
+        for (int kinds = 0; kinds < 8; kinds++) {
+            due.is("edgeKinds of set " + kinds, Look.block(1, 1, pairs[kinds]).edgeKinds(0, 1), kinds);
+        }
     }
 
     // 'It answers 0 unless 0 <= i < j < n; in particular 0 for i >= j, for negative indices and for
@@ -152,7 +205,8 @@ public final class EdgeTest {
         }
     }
 
-    // The pair of the last two, for each n; in a full block all 45 pairs.
+    // 'For every pair i < j (no edge ever goes from j back to i)': for each n, also those that another
+    // write stands between; in a full block all 45.
     private static void pairsUpToTheLast(Due due) {
         BlockSchedOpt x = new BlockSchedOpt(2, 2);
         for (int n = 1; n <= 10; n++) {
@@ -170,7 +224,8 @@ public final class EdgeTest {
         due.is("edgeDelay(0, 1) after clear()", x.edgeDelay(0, 1), -1);
     }
 
-    // 'Both change nothing and do not depend on cycles or values.'
+    // 'Both change nothing and do not depend on cycles or values.', 'Dependences depend only on the
+    // instructions and the two latencies, never on cycles or values.'
     private static void cyclesAndValuesDoNotMatter(Due due) {
         BlockSchedOpt x = Look.block(2, 3, 5, 0, 1, 0, 4, 2, 0, 0, 6, 2, 1, 0);
         int[] kinds = {x.edgeKinds(0, 1), x.edgeKinds(0, 2), x.edgeKinds(1, 2)};
@@ -188,12 +243,20 @@ public final class EdgeTest {
         States.unchanged(due, "edgeDelay(0, 1)", state -> state.make().edgeDelay(0, 1), y -> y.edgeDelay(0, 1));
     }
 
+    // 'If it carries at least one, it has an edge i->j whose delay(i,j) is the greatest required distance
+    // among its kinds.'
     private static void everyPairOfInstructions(Due due) {
+        for (int code = 0; code < 16; code++) {
+            everyPair(due, 1 + code / 4, 1 + code % 4);
+        }
+    }
+
+    private static void everyPair(Due due, int mulLatency, int loadLatency) {
         int kindsOfInstr = 6 * 27;
         for (int p = 0; p < kindsOfInstr; p++) {
             for (int q = 0; q < kindsOfInstr; q++) {
-                BlockSchedOpt x = new BlockSchedOpt(2, 4);
-                PlainModel model = new PlainModel(2, 4);
+                BlockSchedOpt x = new BlockSchedOpt(mulLatency, loadLatency);
+                PlainModel model = new PlainModel(mulLatency, loadLatency);
                 for (int code : new int[] {p, q}) {
                     int op = 1 + code / 27;
                     int d = code / 9 % 3;
@@ -202,8 +265,9 @@ public final class EdgeTest {
                     x.addInstr(op, d, a, b);
                     model.addInstr(op, d, a, b);
                 }
-                due.is("edgeKinds of pair " + p + ", " + q, x.edgeKinds(0, 1), model.edgeKinds(0, 1));
-                due.is("edgeDelay of pair " + p + ", " + q, x.edgeDelay(0, 1), model.edgeDelay(0, 1));
+                String pair = p + ", " + q + " at latencies " + mulLatency + ", " + loadLatency;
+                due.is("edgeKinds of pair " + pair, x.edgeKinds(0, 1), model.edgeKinds(0, 1));
+                due.is("edgeDelay of pair " + pair, x.edgeDelay(0, 1), model.edgeDelay(0, 1));
             }
         }
     }

@@ -99,7 +99,8 @@ public final class RunTest {
         due.same("cycles after run()", Look.cycles(x, 6), cycles);
     }
 
-    // 'All arithmetic, including addresses, wraps as Java int arithmetic does.'
+    // 'All arithmetic, including addresses, wraps as Java int arithmetic does.', 'All arithmetic wraps as 32-bit
+    // two's complement, exactly as Java int arithmetic does'
     private static void arithmeticWraps(Due due) {
         int[] values = {MIN, MIN + 1, -65536, -2, -1, 0, 1, 2, 46341, 65536, MAX - 1, MAX};
         for (int p : values) {
@@ -238,7 +239,9 @@ public final class RunTest {
         }
     }
 
-    // 'answers how many of the 16 locations differ between the two (0..16)'
+    // 'answers how many of the 16 locations differ between the two (0..16)', 'On a schedule that is not valid
+    // the answer is simply the count of differing locations, which lies within 0..16 and may also be 0; on a
+    // valid schedule it is 0 (Promise 7).'
     private static void differencesAreCounted(Due due) {
         BlockSchedOpt x = Look.block(1, 1, 1, 0, 1, 0, 2, 1, 0, 0, 2, 2, 0, 0, 2, 3, 0, 0, 2, 4, 0, 0,
                 2, 5, 0, 0, 2, 6, 0, 0, 2, 7, 0, 0, 6, 0, 0, 0);
@@ -252,6 +255,9 @@ public final class RunTest {
         Look.setCycles(x, 9, 0, 0, 0, 0, 0, 0, 0, 0);
         due.is("run() of a schedule not valid that happens to agree", x.run(), 0);
         due.is("check() of it", x.check(), BlockSchedOpt.CHK_DEP);
+        x.setInit(0, 0);
+        x.schedule();
+        due.is("run() of a valid schedule", x.run(), 0);
     }
 
     // Ten instructions, each of which changes one or two locations, can make fourteen differ.

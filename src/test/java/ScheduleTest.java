@@ -35,6 +35,7 @@ public final class ScheduleTest {
         runFindsNoDifference(due);
         criticalPathIsNoLonger(due);
         noValidScheduleIsBetter(due);
+        noStateIsShorter(due);
         hardBlocks(due);
         mixedBlocks(due);
         due.end();
@@ -253,13 +254,14 @@ public final class ScheduleTest {
         due.is("schedule() of three LDIs", wide.schedule(), 2);
     }
 
-    // 'No valid schedule of the same block is shorter', and of those of its length it is the
-    // lexicographically least: all cycles up to one beyond its length, judged by check() alone.
+    // 'a valid schedule of least length, and among all such schedules the one whose vector of issue cycles is
+    // lexicographically least', 'No valid schedule of the same block is shorter': all cycles up to one beyond
+    // its length, judged by check() alone.
     private static void noValidScheduleIsBetter(Due due) {
         Numbers numbers = new Numbers(66);
-        for (int round = 0; round < 150; round++) {
+        for (int round = 0; round < 400; round++) {
             BlockSchedOpt x = new BlockSchedOpt(numbers.in(1, 4), numbers.in(1, 4));
-            int n = numbers.in(1, 3);
+            int n = numbers.in(1, 4);
             for (int i = 0; i < n; i++) {
                 x.addInstr(numbers.in(1, 6), numbers.in(0, 2), numbers.in(0, 2), numbers.in(0, 2));
             }
@@ -283,6 +285,78 @@ public final class ScheduleTest {
             due.is("schedule() in round " + round, length, best);
             due.same("cycles in round " + round, cycles, bestCycles);
         }
+    }
+
+    // 'in any state where check() answers a positive L, L is at least the value schedule() would answer in that
+    // same state'
+    private static void noStateIsShorter(Due due) {
+        int valid = 0;
+        for (States.State state : States.ALL) {
+            int judged = state.make().check();
+            if (judged > 0) {
+                valid++;
+                due.is("schedule() no longer, " + state.name(), state.make().schedule() <= judged, true);
+            }
+        }
+        due.is("valid states met", valid, 3);
+        Numbers numbers = new Numbers(67);
+        for (int round = 0; round < 3000; round++) {
+            BlockSchedOpt x = new BlockSchedOpt(numbers.in(1, 4), numbers.in(1, 4));
+            int[] ops = new int[numbers.in(1, 10)];
+            for (int i = 0; i < ops.length; i++) {
+                ops[i] = numbers.in(1, 6);
+                x.addInstr(ops[i], numbers.in(0, 7), numbers.in(0, 7), numbers.in(0, 7));
+            }
+            Look.setCycles(x, placeInMixedOrder(x, ops, numbers));
+            int judged = x.check();
+            due.is("valid by hand in round " + round, judged > 0, true);
+            due.is("schedule() no longer in round " + round, x.schedule() <= judged, true);
+        }
+    }
+
+    /** A valid schedule, often a short one: any that waits for none, as early as it can, and so on. */
+    private static int[] placeInMixedOrder(BlockSchedOpt x, int[] ops, Numbers numbers) {
+        int n = ops.length;
+        int[] cycles = new int[n];
+        java.util.Arrays.fill(cycles, -1);
+        for (int placed = 0; placed < n; placed++) {
+            int i = numbers.in(0, n - 1);
+            while (cycles[i] >= 0 || earliest(x, i, cycles) < 0) {
+                i = (i + 1) % n;
+            }
+            int c = earliest(x, i, cycles);
+            while (!hasRoom(ops, cycles, i, c)) {
+                c++;
+            }
+            cycles[i] = c;
+        }
+        return cycles;
+    }
+
+    /** -1 if it waits for one that has no cycle yet. */
+    private static int earliest(BlockSchedOpt x, int i, int[] cycles) {
+        int c = 0;
+        for (int p = 0; p < i; p++) {
+            if (x.edgeKinds(p, i) != 0) {
+                if (cycles[p] < 0) {
+                    return -1;
+                }
+                c = Math.max(c, cycles[p] + x.edgeDelay(p, i));
+            }
+        }
+        return c;
+    }
+
+    private static boolean hasRoom(int[] ops, int[] cycles, int i, int c) {
+        int together = 0;
+        for (int p = 0; p < ops.length; p++) {
+            if (cycles[p] == c) {
+                boolean memory = ops[i] >= BlockSchedOpt.OP_LOAD && ops[p] >= BlockSchedOpt.OP_LOAD;
+                boolean multiplier = ops[i] == BlockSchedOpt.OP_MUL && ops[p] == BlockSchedOpt.OP_MUL;
+                together += memory || multiplier ? 2 : 1;
+            }
+        }
+        return together < 2;
     }
 
     private static void hardBlocks(Due due) {
