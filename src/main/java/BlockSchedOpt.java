@@ -46,8 +46,8 @@ public final class BlockSchedOpt {
     // Each round of narrowing but the last takes a cycle from at least one instruction.
     private static final int MAX_ROUNDS = MAX_INSTR * MAX_LENGTH + 1;
 
-    // Only there to give the search an end that can be seen: the hardest blocks met in long
-    // trials took some thousand steps.
+    // Each step of the search has placed another row of different instructions. Of ten there are
+    // 9,864,101 rows, so that no search comes to this bound.
     private static final int MAX_STEPS = 100000000;
 
     private final int mulLatency;
@@ -69,14 +69,15 @@ public final class BlockSchedOpt {
     private final int[] pendingValue = new int[MAX_INSTR];
     private final int[] pendingTarget = new int[MAX_INSTR];
 
-    // Scratch of the search: edge delays by i * MAX_INSTR + j, the cycles on trial, the first and
-    // last cycle each instruction can still have, and the choices that led here, oldest first.
-    private final int[] delay = new int[PAIRS];
+    // Scratch of the search: by i * MAX_INSTR + j how long j has to wait for i, the cycles on
+    // trial, the first and last cycle each instruction can still have, the row of those placed,
+    // oldest first, and for each of these, one bit each, those that could have its place instead.
+    private final int[] waits = new int[PAIRS];
     private final int[] trial = new int[MAX_INSTR];
     private final int[] earliest = new int[MAX_INSTR];
     private final int[] latest = new int[MAX_INSTR];
-    private final int[] chosen = new int[MAX_INSTR];
-    private final int[] lastTry = new int[MAX_INSTR];
+    private final int[] placed = new int[MAX_INSTR];
+    private final int[] rivals = new int[MAX_INSTR];
 
     public BlockSchedOpt(int mulLatency, int loadLatency) {
         this.mulLatency = clampLatency(mulLatency);
@@ -268,6 +269,11 @@ public final class BlockSchedOpt {
         return unit == UNIT_ISSUE || unitOf[i] == unit;
     }
 
+    /** Whether no cycle can hold both, as they need the same scarce unit. */
+    private boolean shareUnit(int i, int j) {
+        return unitOf[i] != UNIT_ISSUE && unitOf[i] == unitOf[j];
+    }
+
     private int latencyOf(int i) {
         if (opcode[i] == OP_MUL) {
             return mulLatency;
@@ -329,14 +335,14 @@ public final class BlockSchedOpt {
         return greatest;
     }
 
-    /** The critical path; leaves every delay behind for the search. */
+    /** The critical path; leaves for the search how long each has to wait for each before it. */
     private int longestChain() {
         int longest = 0;
         for (int j = 0; j < n; j++) {
             earliest[j] = 0;
             for (int i = 0; i < j; i++) {
                 int wait = delayOfPair(i, j);
-                delay[i * MAX_INSTR + j] = wait;
+                waits[i * MAX_INSTR + j] = wait == 0 && shareUnit(i, j) ? 1 : wait;
                 if (wait != NO_EDGE && earliest[i] + wait > earliest[j]) {
                     earliest[j] = earliest[i] + wait;
                 }
@@ -349,21 +355,24 @@ public final class BlockSchedOpt {
         return longest;
     }
 
-    /** Whether the instructions before number settled can keep their cycles in a valid schedule. */
+    /**
+     * Whether the instructions before number settled can keep their cycles in a valid schedule.
+     * The others are placed by ascending cycle, and within a cycle by ascending index, each in the
+     * first cycle that any of them can still have. That misses nothing: in a schedule that has none
+     * of them there, the lowest of those that can be there can be moved there.
+     */
     private boolean fits(int settled, int length) {
         for (int i = 0; i < n; i++) {
             trial[i] = i < settled ? issue[i] : UNSET;
         }
         int depth = 0;
         for (int step = 0; step < MAX_STEPS; step++) {
-            if (leavesChance(length)) {
-                int i = tightest();
-                if (i < 0) {
+            if (leavesChance(depth, length)) {
+                int next = firstInLine();
+                if (next < 0) {
                     return true;
                 }
-                chosen[depth] = i;
-                lastTry[depth] = latest[i];
-                trial[i] = earliest[i];
+                place(next, depth);
                 depth++;
             } else {
                 depth = retreat(depth);
@@ -375,34 +384,49 @@ public final class BlockSchedOpt {
         return false;
     }
 
-    /** Moves on the newest choice that has a cycle left, gives up those after it; the new depth. */
+    /** The lowest of those that can have the first cycle left; -1 if all are placed. */
+    private int firstInLine() {
+        int first = -1;
+        for (int i = 0; i < n; i++) {
+            if (trial[i] == UNSET && (first < 0 || earliest[i] < earliest[first])) {
+                first = i;
+            }
+        }
+        return first;
+    }
+
+    private void place(int next, int depth) {
+        int others = 0;
+        for (int i = next + 1; i < n; i++) {
+            if (trial[i] == UNSET && earliest[i] == earliest[next]) {
+                others |= 1 << i;
+            }
+        }
+        placed[depth] = next;
+        rivals[depth] = others;
+        trial[next] = earliest[next];
+    }
+
+    /** Gives the newest place that has a rival left to the next rival; the new depth. */
     private int retreat(int depth) {
         for (int left = depth; left > 0; left--) {
-            int i = chosen[left - 1];
-            if (trial[i] < lastTry[left - 1]) {
-                trial[i]++;
-                return left;
+            int old = placed[left - 1];
+            int cycle = trial[old];
+            trial[old] = UNSET;
+            for (int i = old + 1; i < n; i++) {
+                if ((rivals[left - 1] >> i & 1) != 0) {
+                    placed[left - 1] = i;
+                    trial[i] = cycle;
+                    return left;
+                }
             }
-            trial[i] = UNSET;
         }
         return 0;
     }
 
-    /** What has the fewest cycles left goes first, so that dead ends show early; -1 if none. */
-    private int tightest() {
-        int found = -1;
-        for (int i = 0; i < n; i++) {
-            if (trial[i] == UNSET
-                    && (found < 0 || latest[i] - earliest[i] < latest[found] - earliest[found])) {
-                found = i;
-            }
-        }
-        return found;
-    }
-
     /** Finds what the cycles on trial leave to each instruction; false if that is a dead end. */
-    private boolean leavesChance(int length) {
-        openWindows(length);
+    private boolean leavesChance(int depth, int length) {
+        openWindows(depth, length);
         for (int round = 0; round < MAX_ROUNDS; round++) {
             if (!narrowByEdges()) {
                 return false;
@@ -415,11 +439,17 @@ public final class BlockSchedOpt {
         return true;
     }
 
-    private void openWindows(int length) {
+    private void openWindows(int depth, int length) {
+        int newest = depth == 0 ? -1 : placed[depth - 1];
+        int cycle = depth == 0 ? 0 : trial[newest];
         for (int i = 0; i < n; i++) {
-            boolean free = trial[i] == UNSET;
-            earliest[i] = free ? 0 : trial[i];
-            latest[i] = free ? length - latencyOf(i) : trial[i];
+            if (trial[i] != UNSET) {
+                earliest[i] = trial[i];
+                latest[i] = trial[i];
+            } else {
+                earliest[i] = i > newest ? cycle : cycle + 1;
+                latest[i] = length - latencyOf(i);
+            }
         }
     }
 
@@ -427,7 +457,7 @@ public final class BlockSchedOpt {
     private boolean narrowByEdges() {
         for (int j = 0; j < n; j++) {
             for (int i = 0; i < j; i++) {
-                int wait = delay[i * MAX_INSTR + j];
+                int wait = waits[i * MAX_INSTR + j];
                 if (wait != NO_EDGE && earliest[i] + wait > earliest[j]) {
                     earliest[j] = earliest[i] + wait;
                 }
@@ -435,7 +465,7 @@ public final class BlockSchedOpt {
         }
         for (int i = n - 1; i >= 0; i--) {
             for (int j = i + 1; j < n; j++) {
-                int wait = delay[i * MAX_INSTR + j];
+                int wait = waits[i * MAX_INSTR + j];
                 if (wait != NO_EDGE && latest[j] - wait < latest[i]) {
                     latest[i] = latest[j] - wait;
                 }

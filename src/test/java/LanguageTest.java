@@ -118,7 +118,8 @@ public final class LanguageTest extends TreeScanner<Void, Void> {
         if (isArray) {
             arrays.add(name);
             broken("rule 4: an array field that could be assigned to", field, !modifiers.contains(Modifier.FINAL));
-            broken("rule 4: an array not made with its field", field, !(field.getInitializer() instanceof NewArrayTree));
+            boolean made = field.getInitializer() instanceof NewArrayTree;
+            broken("rule 4: an array not made with its field", field, !made);
         }
     }
 

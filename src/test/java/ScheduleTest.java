@@ -1,6 +1,6 @@
 /** Promise 6: finding the optimal schedule. */
 public final class ScheduleTest {
-    // Blocks on which simpler searches take long: mulLatency, loadLatency, then op, d, a, b each.
+    // Blocks on which this search or a simpler one takes long: mulLatency, loadLatency, then op, d, a, b each.
     private static final int[][] HARD = {
         {4, 4, 1, 5, 3, 7, 2, 0, 7, 0, 1, 7, 0, 5, 1, 1, 1, 5, 1, 6, 4, 4, 5, 2, 2, 3, 5, 3, 2, 3,
             5, 2, 2, 0, 4, 2, 3, 2, 4, 3, 3, 4},
@@ -16,6 +16,14 @@ public final class ScheduleTest {
             4, 5, 5, 5, 4, 2, 7, 6, 4, 0, 0, 6},
         {1, 3, 5, 5, 2, 6, 4, 0, 0, 2, 4, 0, 2, 3, 4, 4, 4, 4, 4, 7, 7, 3, 4, 1, 6, 2, 4, 7, 6, 7,
             4, 4, 6, 3, 2, 6, 6, 3, 3, 3, 0, 5},
+        {3, 3, 2, 4, 3, 5, 5, 0, 4, 1, 5, 7, 4, 1, 5, 5, 4, 5, 5, 7, 1, 1, 2, 6, 2, 3, 5, 2, 3, 3,
+            5, 3, 3, 1, 5, 5, 4, 7, 5, 6, 6, 6},
+        {2, 1, 5, 0, 0, 1, 5, 1, 1, 6, 5, 3, 6, 7, 5, 7, 6, 0, 5, 5, 6, 4, 5, 4, 6, 1, 5, 2, 2, 2,
+            6, 3, 3, 0, 3, 3, 6, 0, 1, 0, 2, 0},
+        {1, 1, 1, 1, 6, 2, 6, 6, 6, 1, 1, 5, 2, 6, 2, 0, 4, 6, 2, 3, 6, 4, 1, 2, 2, 2, 2, 7, 4, 6,
+            3, 5, 6, 4, 5, 4, 2, 3, 5, 6, 6, 0},
+        {2, 1, 5, 2, 2, 4, 5, 6, 4, 0, 5, 7, 7, 6, 5, 0, 4, 3, 5, 3, 5, 6, 5, 1, 4, 6, 6, 3, 4, 1,
+            3, 3, 1, 5, 4, 1, 1, 1, 4, 5, 0, 5},
     };
 
     public static void main(String[] args) {
